@@ -120,7 +120,7 @@ public final class TapedLines {
         }
         int done = 0;
         for (int k = 0; k < n && machine.state == RUNNING; k++) {
-            if (machine.step()) {
+            if (machine.settle(machine.perform())) {
                 done++;
             }
         }
@@ -518,8 +518,14 @@ public final class TapedLines {
                 if (wantsOne && code == '-') {
                     take();
                 } else if (wantsOne && (code == '(' || code == '@')) {
-                    // Too deep, an @ is refused at once: no E could lie in its brackets.
-                    if (open + 1 >= DEEPEST || !readBracket()) {
+                    // An @ is refused here already: no E could lie in its brackets.
+                    if (open + 1 >= DEEPEST) {
+                        return false;
+                    }
+                    if (code == '@') {
+                        take();
+                    }
+                    if (!readMark('(')) {
                         return false;
                     }
                     open++;
@@ -539,13 +545,6 @@ public final class TapedLines {
                 }
             }
             return false;
-        }
-
-        private boolean readBracket() {
-            if (ahead(0) == '@') {
-                take();
-            }
-            return readMark('(');
         }
 
         private void skipSpaces() {
@@ -691,8 +690,12 @@ public final class TapedLines {
             return value;
         }
 
+        int expression() {
+            return worth(0, 1);
+        }
+
         /** Tier 0 is an E, 1 a sum, 2 a product, 3 a one. */
-        int worth(int tier, int depth) {
+        private int worth(int tier, int depth) {
             if (error != 0) {
                 return 0;
             }
@@ -816,11 +819,8 @@ public final class TapedLines {
             arriveAt(0);
         }
 
-        /** False when the statement met an error. */
-        boolean step() {
-            next = program.behind(line);
-            calculator.open(program.bytes, line + HEAD, next);
-            int error = perform();
+        /** Goes on behind a statement that has been done; false when it met an error. */
+        boolean settle(int error) {
             if (error != 0) {
                 state = STOPPED + error;
                 return false;
@@ -834,7 +834,9 @@ public final class TapedLines {
             state = place < program.count ? RUNNING : ENDED;
         }
 
-        private int perform() {
+        int perform() {
+            next = program.behind(line);
+            calculator.open(program.bytes, line + HEAD, next);
             switch (calculator.ahead()) {
                 case GOTO:
                     return jump();
@@ -895,7 +897,7 @@ public final class TapedLines {
 
         private int jumpIf() {
             calculator.take();
-            int condition = calculator.worth(0, 1);
+            int condition = calculator.expression();
             if (calculator.error != 0) {
                 return calculator.error;
             }
@@ -906,9 +908,9 @@ public final class TapedLines {
             calculator.take();
             int v = calculator.takeVariable();
             calculator.take();
-            int first = calculator.worth(0, 1);
+            int first = calculator.expression();
             calculator.take();
-            int limit = calculator.worth(0, 1);
+            int limit = calculator.expression();
             if (calculator.error != 0) {
                 return calculator.error;
             }
@@ -957,7 +959,7 @@ public final class TapedLines {
             if (calculator.ahead() == '"') {
                 return writeRow();
             }
-            int value = calculator.worth(0, 1);
+            int value = calculator.expression();
             if (calculator.error != 0) {
                 return calculator.error;
             }
@@ -987,10 +989,10 @@ public final class TapedLines {
         private int setCell() {
             calculator.take();
             calculator.take();
-            int index = calculator.worth(0, 1);
+            int index = calculator.expression();
             calculator.take();
             calculator.take();
-            int value = calculator.worth(0, 1);
+            int value = calculator.expression();
             if (calculator.error != 0) {
                 return calculator.error;
             }
@@ -1004,7 +1006,7 @@ public final class TapedLines {
         private int setVariable() {
             int v = calculator.takeVariable();
             calculator.take();
-            int value = calculator.worth(0, 1);
+            int value = calculator.expression();
             if (calculator.error != 0) {
                 return calculator.error;
             }

@@ -203,6 +203,7 @@ public final class TapeTest {
         wrong("byte 127 between quotes", 5, 4, '?', '"', 127, '"');
         wrong("byte 128 between quotes", 5, 4, '?', '"', 128, '"');
         wrong("byte 255 between quotes", 5, 4, '?', '"', 255, '"');
+        wrong("five spaces dropped, a word spelled out by five more", 5, 9, '?', ' ', ' ', ' ', ' ', ' ', '"', 128, '"');
         wrong("open quotes", 5, 3, '?', '"', 'a');
         wrong("quotes in quotes", 5, 5, '?', '"', 'a', '"', '"');
         wrong("too deep", 5, 11, 'a', '=', '(', '(', '(', '(', '1', ')', ')', ')', ')');
