@@ -2,6 +2,25 @@
 final class Due {
     private int wrong = 0;
     private int asked = 0;
+    private int sentences = 0;
+    private int askedBefore = 0;
+    private boolean quoted = true;
+    private String sentence = "";
+
+    /** What is asked from here on is the test of this one sentence, which stands in that section of the document. */
+    void sentence(String section, String quote) {
+        closeSentence();
+        sentence = section + ": " + quote;
+        sentences++;
+        askedBefore = asked;
+        quoted = false;
+    }
+
+    private void closeSentence() {
+        if (sentences > 0 && asked == askedBefore) {
+            tell("nothing was asked");
+        }
+    }
 
     void same(String what, long got, long want) {
         asked++;
@@ -38,7 +57,9 @@ final class Due {
     }
 
     void end() {
-        System.out.println(asked + " answers, " + wrong + " of them not as due");
+        closeSentence();
+        String of = sentences == 0 ? "" : " to " + sentences + " sentences";
+        System.out.println(asked + " answers" + of + ", " + wrong + " of them not as due");
         if (wrong != 0 || asked == 0) {
             System.exit(1);
         }
@@ -46,8 +67,36 @@ final class Due {
 
     private void tell(String line) {
         wrong++;
+        if (!quoted) {
+            System.out.println("NOT HELD: " + sentence);
+            quoted = true;
+        }
         if (wrong <= 50) {
             System.out.println(line);
+        }
+    }
+
+    /** The text has its fault there, and is gone then; all else stays. */
+    void faulty(String text, int place) {
+        fits(text);
+        TapedLines x = started("50 a=1");
+        String before = all(x);
+        same("enter of [" + text + "]", enter(x, text), -1 - place);
+        same("all else with [" + text + "]", all(x), before);
+        same("text behind [" + text + "]", x.wipe(), 0);
+    }
+
+    /** The text becomes a line, which is listed so. */
+    void becomes(String text, String listed) {
+        fits(text);
+        TapedLines x = new TapedLines();
+        holds("enter of [" + text + "]", enter(x, text) > 0);
+        same("[" + text + "] listed", x.lines() == 1 ? listing(x, 0) : "", listed);
+    }
+
+    private static void fits(String text) {
+        if (text.length() > 60) {
+            throw new AssertionError("the test's own text is too long: " + text);
         }
     }
 
@@ -65,6 +114,7 @@ final class Due {
     static TapedLines with(String... lines) {
         TapedLines x = new TapedLines();
         for (String line : lines) {
+            fits(line);
             int answer = enter(x, line);
             if (answer < 0) {
                 throw new AssertionError("the test's own line " + line + " answers " + answer);
@@ -120,8 +170,12 @@ final class Due {
 
     /** All that can be asked without changing anything but the page. */
     static String all(TapedLines x) {
+        return x.state() + " " + allButState(x);
+    }
+
+    static String allButState(TapedLines x) {
         StringBuilder all = new StringBuilder();
-        all.append(x.state()).append(' ').append(x.place()).append(' ').append(x.lines());
+        all.append(x.place()).append(' ').append(x.lines());
         all.append('[').append(bytes(x)).append(']');
         for (int k = 0; k < 8; k++) {
             all.append(x.variable(k)).append(' ');

@@ -79,12 +79,25 @@ public final class FaceTest {
     }
 
     private static void newObject(Due due) {
-        TapedLines x = new TapedLines();
+        due.sentence("Promise 1: A new object", "No lines, an empty tape; nothing runs; page and output are empty.");
+        isNew(due, new TapedLines());
+        // What another object has done is not seen.
+        TapedLines other = Due.started("1 a=5", "2 @(0)=6", "3 ?a", "4 GOTO 4");
+        other.run(9);
+        other.output();
+        other.save();
+        Due.type(other, "12");
+        isNew(due, new TapedLines());
+        due.same("nor does a new one touch it", Due.page(other), "5 ");
+    }
+
+    private static void isNew(Due due, TapedLines x) {
+        due.same("length", x.length(), 0);
+        due.same("charAt", x.charAt(0), ' ');
         due.same("lines", x.lines(), 0);
         due.same("waves", x.waves(), 0);
         due.same("state", x.state(), TapedLines.IDLE);
         due.same("place", x.place(), TapedLines.NONE);
-        due.same("length", x.length(), 0);
         due.same("output", x.output(), 0);
         due.same("bytes", Due.bytes(x), "");
         for (int k = 0; k < 8; k++) {
@@ -96,6 +109,7 @@ public final class FaceTest {
         due.same("wipe", x.wipe(), 0);
         due.same("load of an empty tape", x.load(), TapedLines.TORN);
         due.throwsThat("wave(0)", IndexOutOfBoundsException.class, () -> x.wave(0));
+        due.throwsThat("programByte(0)", IndexOutOfBoundsException.class, () -> x.programByte(0));
         due.throwsThat("list(0)", IndexOutOfBoundsException.class, () -> x.list(0));
         due.throwsThat("run(1)", IllegalStateException.class, () -> x.run(1));
     }

@@ -1,258 +1,348 @@
-/** Promises 2 type, 3 wipe, 4 enter. */
+/** Terms: TEXT and FAULT; promises 2 type, 3 wipe, 4 enter. */
 public final class TextTest {
+    private static final String[] WORDS = {"GOTO", "GOSUB", "RETURN", "IF", "FOR", "TO", "NEXT", "END"};
+    private static final String[] LINES_OF_WORDS = {"1 GOTO 5", "1 GOSUB 5", "1 RETURN", "1 IF a GOTO 5",
+        "1 FOR a=1 TO 5", "1 FOR a=1 TO 5", "1 NEXT a", "1 END"};
+    private static final String ROW_OF_45 = "?\"" + "x".repeat(45) + "\"";
+
     private static final Due due = new Due();
 
     public static void main(String[] args) {
+        room();
+        numberAndStatement();
+        spaces();
+        spacesBetweenQuotes();
+        faultAtFirstWrong();
+        faultAtLength();
         types();
+        refusesToType();
         wipes();
-        numbers();
-        words();
-        expressions();
-        quotes();
-        entersInPlace();
+        textIsEmptyThen();
+        replaces();
         takesAway();
-        full();
+        answersBytes();
+        answersFault();
+        answersFull();
+        allElseStays();
         stopsTheRun();
         due.end();
     }
 
-    private static void fault(String text, int place) {
-        TapedLines x = Due.with("50 a=1");
-        x.start();
-        String before = Due.all(x);
-        due.same("enter of [" + text + "]", Due.enter(x, text), -1 - place);
-        due.same("all else with [" + text + "]", Due.all(x), before);
-        due.same("text behind [" + text + "]", x.wipe(), 0);
+    private static void room() {
+        due.sentence("Terms", "The TEXT has at most 60 characters with codes 32 .. 126; places count from 0.");
+        TapedLines x = new TapedLines();
+        Due.type(x, "1 ?\"" + "x".repeat(55) + "\"");
+        due.holds("no character 61", !x.type('y'));
+        due.same("a line of 60 characters", x.enter(), 60);
+        Due.type(x, "2 ?\"" + "x".repeat(56) + "\"");
+        due.same("one of 61 lacks its last", x.enter(), -61);
+        due.faulty("!", 0);
+        due.faulty("1!", 1);
     }
 
-    private static void good(String text, String listed) {
-        TapedLines x = new TapedLines();
-        due.holds("enter of [" + text + "]", Due.enter(x, text) > 0);
-        due.same("[" + text + "] listed", x.lines() == 1 ? Due.listing(x, 0) : "", listed);
+    private static void numberAndStatement() {
+        due.sentence("Terms", "It is to be a number and a statement, or a number alone");
+        TapedLines x = Due.with("7 END");
+        due.same("a number alone", Due.enter(x, "7"), 0);
+        due.same("a number and a statement", Due.enter(x, "8 END"), 3);
+        due.faulty("", 0);
+        due.faulty("END", 0);
+        due.faulty("a=1", 0);
+        due.faulty("1 2", 2);
+        due.faulty("1 2 END", 2);
+        due.faulty("1 END END", 6);
+        due.faulty("1 END 2", 6);
+    }
+
+    private static void spaces() {
+        due.sentence("Terms", "spaces may stand anywhere but within words (GOTO and so on) and numbers");
+        String[] lines = {"12 @ ( - ( b ) ) = @ ( 3 ) * 45 < 6", "1 a = 1 + 2", "1 ? b", "1 ? \"x\"", "1 GOTO 23", "1 GOSUB 23",
+            "1 RETURN", "1 IF b = 1 GOTO 23", "1 FOR a = 10 TO 20", "1 NEXT h", "1 END"};
+        for (String line : lines) {
+            String tight = line.replace(" ", "");
+            TapedLines x = Due.with(tight);
+            String bytes = Due.bytes(x);
+            for (String spaced : new String[] {line, line.replace(" ", "  "), "  " + line + "  ", tight + " ", " " + tight}) {
+                due.same("bytes of [" + spaced + "]", Due.bytes(Due.with(spaced)), bytes);
+            }
+        }
+        for (int k = 0; k < WORDS.length; k++) {
+            splitWord(LINES_OF_WORDS[k], WORDS[k]);
+        }
+        due.faulty("1 0 END", 2);
+        due.faulty("1 a=1 0", 6);
+        due.faulty("1 a=0 0", 6);
+        due.faulty("1 a=3276 7", 9);
+        due.faulty("1 GOTO 9 9", 9);
+    }
+
+    private static void splitWord(String line, String word) {
+        int from = line.indexOf(word);
+        for (int p = from + 1; p < from + word.length(); p++) {
+            due.faulty(line.substring(0, p) + " " + line.substring(p), p);
+        }
+    }
+
+    private static void spacesBetweenQuotes() {
+        due.sentence("Terms", "between quotes they are characters like others");
+        due.becomes("1 ? \" a  b \" ", "1 ?\" a  b \"");
+        due.same("one space", Due.enter(new TapedLines(), "1 ?\" \""), 6);
+        due.same("two spaces", Due.enter(new TapedLines(), "1 ?\"  \""), 7);
+        due.same("no space", Due.enter(new TapedLines(), "1 ? \"\""), 5);
+        TapedLines x = Due.started("1 ?\"  a \"");
+        x.run(1);
+        due.same("written", Due.output(x), "  a ");
+    }
+
+    private static void faultAtFirstWrong() {
+        due.sentence("Terms", "Its FAULT is the place of the first character with which the text up to and with it"
+                + " is not the beginning of any such text (of any length)");
+        due.faulty("x", 0);
+        due.faulty("     x", 5);
+        due.faulty("7 GOS 5", 5);
+        due.faulty("7 GOSUP 5", 6);
+        due.faulty("7 GxS", 3);
+        due.faulty("7 IF GOTO 5", 5);
+        due.faulty("7 FOR a=1 T5", 11);
+        due.faulty("7 RETURNS", 8);
+        due.faulty("7 a=((b)+!)", 9);
+        due.faulty("7 a=(((b+@", 9);
+        due.faulty("7 x x x", 2);
+        due.faulty("7 ?\"" + "x".repeat(54) + "\"!", 59);
+        due.faulty("!" + "x".repeat(59), 0);
+        // These would need more than 60 characters, but any length will do.
+        due.faulty("7a=(((" + "-".repeat(54), 60);
+        due.faulty("7?\"" + "x".repeat(57), 60);
+        due.faulty("7IF" + "1+".repeat(28) + "1", 60);
+        due.faulty("7 FORa=" + "1+".repeat(25) + "1TO", 60);
+    }
+
+    private static void faultAtLength() {
+        due.sentence("Terms", "its length when there is none, but the text is none");
+        due.faulty("", 0);
+        due.faulty(" ", 1);
+        due.faulty(" ".repeat(60), 60);
+        beginnings("12 FOR a=1 TO 56", 1, 2, 3, 15, 16);
+        beginnings("1 IF a GOTO 98", 1, 2, 13, 14);
+        beginnings("1 @(b)=c+1", 1, 2, 8, 10);
+        beginnings("1 GOSUB 7 ", 1, 2, 9, 10);
+        beginnings("1 ?\" \" ", 1, 2, 6, 7);
+        beginnings("1 RETURN", 1, 2, 8);
+        beginnings("1 NEXT a", 1, 2, 8);
+        beginnings("1 END", 1, 2, 5);
+        beginnings("9 a=-(b)", 1, 2, 8);
+    }
+
+    /** Of the text's beginnings just those with these lengths are whole. */
+    private static void beginnings(String text, int... whole) {
+        for (int size = 0; size <= text.length(); size++) {
+            boolean isWhole = false;
+            for (int length : whole) {
+                isWhole |= length == size;
+            }
+            int answer = Due.enter(new TapedLines(), text.substring(0, size));
+            if (isWhole) {
+                due.holds("[" + text.substring(0, size) + "] has no fault", answer >= 0);
+            } else {
+                due.same("enter of [" + text.substring(0, size) + "]", answer, -1 - size);
+            }
+        }
     }
 
     private static void types() {
+        due.sentence("Promise 2: type", "Appends a character to the text: true");
         TapedLines x = new TapedLines();
-        for (int c = 0; c <= 65535; c++) {
-            boolean can = c >= 32 && c <= 126;
-            if (can != x.type((char) c)) {
-                due.same("type of " + c, can ? 0 : 1, can ? 1 : 0);
-            }
-            x.wipe();
+        for (char c = ' '; c <= '~'; c++) {
+            due.holds("type of " + (int) c, x.type(c));
+            due.same("the text then", x.wipe(), 1);
         }
+        for (char c : "42 ?7".toCharArray()) {
+            due.holds("type", x.type(c));
+        }
+        due.same("in this order", x.enter(), 4);
+        due.same("listed", Due.listing(x, 0), "42 ?7");
         for (int k = 0; k < 60; k++) {
             due.holds("character " + k, x.type(' '));
         }
-        due.holds("no character 60", !x.type(' '));
-        due.holds("no character 60, and none out of range", !x.type((char) 31));
-        due.same("wipe", x.wipe(), 60);
-        due.holds("a character again", x.type('~'));
+        due.same("60", x.wipe(), 60);
+    }
+
+    private static void refusesToType() {
+        due.sentence("Promise 2: type", "false when c is not 32 .. 126 or there are 60");
+        TapedLines x = new TapedLines();
+        boolean any = false;
+        for (int c = 0; c <= 65535; c++) {
+            any |= (c < 32 || c > 126) && x.type((char) c);
+        }
+        due.holds("no other character is typed", !any);
+        due.holds("nor 31", !x.type((char) 31));
+        due.holds("nor 127", !x.type((char) 127));
+        due.holds("nor 32 + 65536 / 2", !x.type((char) (32 + 32768)));
+        due.same("the text stays empty", x.wipe(), 0);
+        Due.type(x, "3\t EN\u00e9D\n");
+        due.same("the others are typed", x.wipe(), 5);
+        Due.type(x, "1 ?\"" + "x".repeat(55) + "\"");
+        for (char c = ' '; c <= '~'; c++) {
+            due.holds("no character 61 " + c, !x.type(c));
+        }
+        due.holds("nor one that is none", !x.type((char) 127));
+        due.same("the text stays as it was", x.enter(), 60);
+        due.holds("then there is room", x.type('1'));
     }
 
     private static void wipes() {
+        due.sentence("Promise 3: wipe", "The text is empty; how many characters it had.");
         TapedLines x = Due.with("1 END");
+        due.same("wipe of nothing", x.wipe(), 0);
         Due.type(x, "2 EN");
         due.same("wipe", x.wipe(), 4);
         due.same("wipe again", x.wipe(), 0);
         due.same("enter of nothing", x.enter(), -1);
         due.same("lines", x.lines(), 1);
-        Due.type(x, "3\tE");
-        due.same("a tab is not typed", x.wipe(), 2);
+        Due.type(x, "2 EN");
+        x.wipe();
+        Due.type(x, "3 END");
+        due.same("nothing of the old text is left", x.enter(), 6);
+        Due.type(x, " ".repeat(60));
+        due.same("wipe of a full one", x.wipe(), 60);
+        due.holds("room again", x.type(' '));
     }
 
-    private static void numbers() {
-        fault("", 0);
-        fault("   ", 3);
-        fault("0", 0);
-        fault("07 a=1", 0);
-        fault("  07", 2);
-        fault("100 a=1", 2);
-        fault("999", 2);
-        fault("1 2", 2);
-        fault("x", 0);
-        fault("a=1", 0);
-        fault("-1 a=1", 0);
-        fault("1 GOTO 0", 7);
-        fault("1 GOTO 01", 7);
-        fault("1 GOTO 100", 9);
-        fault("1 GOTO 9 9", 9);
-        fault("1 GOTO", 6);
-        fault("1 GOTO ", 7);
-        fault("1 GOTO a", 7);
-        fault("1 a=32768", 8);
-        fault("1 a=40000", 8);
-        fault("1 a=99999", 8);
-        fault("1 a=327670", 9);
-        fault("1 a=00", 5);
-        fault("1 a=01", 5);
-        fault("1 a=1 0", 6);
-        fault("1 a=0 0", 6);
-        good("1a=32767", "1 a=32767");
-        good("99a=0", "99 a=0");
-        good("9 a=10000", "9 a=10000");
-        good(" 1 GOTO 99 ", "1 GOTO 99");
-        good("1 GOTO1", "1 GOTO 1");
-    }
-
-    private static void words() {
-        fault("7 G", 3);
-        fault("7 GO", 4);
-        fault("7 GO TO 5", 4);
-        fault("7 GOS 5", 5);
-        fault("7 GOSUP", 6);
-        fault("7 GOSU", 6);
-        fault("7 GxS", 3);
-        fault("7 goto 5", 3);
-        fault("7 return", 2);
-        fault("7 R", 3);
-        fault("7 RETURNS", 8);
-        fault("7 RETURN 5", 9);
-        fault("7 END a", 6);
-        fault("7 EN D", 4);
-        fault("7 IF", 4);
-        fault("7 IF GOTO 5", 5);
-        fault("7 IF a", 6);
-        fault("7 IF a ", 7);
-        fault("7 IF a GOSUB 5", 9);
-        fault("7 IF a THEN", 7);
-        fault("7 IF a G OTO 5", 8);
-        fault("7 FOR i=1 TO 5", 6);
-        fault("7 FOR a 1", 8);
-        fault("7 FOR a=1", 9);
-        fault("7 FOR a=1 T O 5", 11);
-        fault("7 FOR a=1 GOTO", 10);
-        fault("7 FOR a=1 TO", 12);
-        fault("7 FOR a=1 TO 5 GOTO", 15);
-        fault("7 NEXT", 6);
-        fault("7 NEXT i", 7);
-        fault("7 NEXT 1", 7);
-        fault("7 NEXT a b", 9);
-        fault("7 TO", 2);
-        fault("7 i=1", 2);
-        fault("7 A=1", 2);
-        fault("7 a", 3);
-        fault("7 a a", 4);
-        good("7FORa=1TO5", "7 FOR a=1 TO 5");
-        good(" 7 FOR h = b TO c ", "7 FOR h=b TO c");
-        good("7IFaGOTO5", "7 IF a GOTO 5");
-        good("7 GOSUB5", "7 GOSUB 5");
-        good("7 RETURN  ", "7 RETURN");
-        good("7NEXTh", "7 NEXT h");
-        good("7END", "7 END");
-    }
-
-    private static void expressions() {
-        fault("1 a=", 4);
-        fault("1 a==1", 4);
-        fault("1 a=1=", 6);
-        fault("1 a=+1", 4);
-        fault("1 a=1**2", 6);
-        fault("1 a=1<=2", 6);
-        fault("1 a=()", 5);
-        fault("1 a=(1", 6);
-        fault("1 a=(1))", 7);
-        fault("1 a=1)", 5);
-        fault("1 a=b c", 6);
-        fault("1 a=@", 5);
-        fault("1 a=@1", 5);
-        fault("1 a=@ 1", 6);
-        fault("1 a=(1 TO", 7);
-        fault("1 a=((((b))))", 7);
-        fault("1 a=@(@(@(@(1))))", 10);
-        fault("1 a=(((-@(1))))", 8);
-        fault("1 @((((b))))=((((c))))", 16);
-        fault("1 @(((((b", 7);
-        fault("1 @(1)", 6);
-        fault("1 @(1)1", 6);
-        fault("1 @(1)=", 7);
-        fault("1 @1", 3);
-        fault("1 @", 3);
-        fault("1 ?", 3);
-        fault("1 ? ", 4);
-        fault("1 ? ) ", 4);
-        fault("1 a=-", 5);
-        fault("1 a=1!", 5);
-        fault("1 a=\"x\"", 4);
-        good("1 a=(((b)))+(((c)))", "1 a=(((b)))+(((c)))");
-        good("1 @ ( ( ( ( b ) ) ) ) = @(@(@(1)))", "1 @((((b))))=@(@(@(1)))");
-        good("1 a=----3<4=5>6%7/8*9", "1 a=----3<4=5>6%7/8*9");
-        good("1 a=- - ( - b ) - - @ ( - 0 )", "1 a=--(-b)--@(-0)");
-        good("1 a=b=c", "1 a=b=c");
-        String minuses = "1a=" + "-".repeat(57);
-        fault(minuses, 60);
-        good(minuses.substring(0, 59) + "1", "1 " + minuses.substring(1, 59) + "1");
-        fault("1a=((" + "-".repeat(55), 60);
-    }
-
-    private static void quotes() {
-        fault("7 ? \"a", 6);
-        fault("7 ?\"", 4);
-        fault("7 ?\"a\" b", 7);
-        fault("7 ?\"a\"\"", 6);
-        fault("7 ?\"" + "x".repeat(56), 60);
-        good("7 ? \"\"", "7 ?\"\"");
-        good("7 ? \" a  b \" ", "7 ?\" a  b \"");
-        good("7 ?\"GOTO TO (((((\"", "7 ?\"GOTO TO (((((\"");
+    private static void textIsEmptyThen() {
+        due.sentence("Promise 4: enter", "The text, which is empty then, becomes a line, in the place of one with"
+                + " that number");
         TapedLines x = new TapedLines();
-        due.same("words between quotes are characters", Due.enter(x, "7 ?\"GOTO\""), 9);
-        due.same("their bytes", Due.bytes(x), "\u0007\u0007?\"GOTO\"");
+        Due.enter(x, "1 END");
+        due.same("behind a line", x.wipe(), 0);
+        Due.enter(x, "1");
+        due.same("behind a number alone", x.wipe(), 0);
+        Due.enter(x, "1 EN");
+        due.same("behind a fault", x.wipe(), 0);
+        TapedLines full = Due.with("1" + ROW_OF_45, "2" + ROW_OF_45, "3" + ROW_OF_45, "4" + ROW_OF_45);
+        Due.enter(full, "5 END");
+        due.same("behind FULL", full.wipe(), 0);
     }
 
-    private static void entersInPlace() {
+    private static void replaces() {
+        due.sentence("Promise 4: enter", "becomes a line, in the place of one with that number");
         TapedLines x = new TapedLines();
-        due.same("first", Due.enter(x, "20 a=1"), 5);
+        due.same("the first", Due.enter(x, "20 a=1"), 5);
         due.same("before it", Due.enter(x, "10 END"), 8);
         due.same("behind it", Due.enter(x, "30 b=22"), 14);
         due.same("between", Due.enter(x, "25 NEXT a"), 18);
         due.same("instead, longer", Due.enter(x, "20 a=12345"), 22);
         due.same("instead, shorter", Due.enter(x, "20 END"), 16);
+        due.same("instead, the same", Due.enter(x, "20 END"), 16);
+        due.same("the first instead", Due.enter(x, "10 a=b"), 18);
+        due.same("the last instead", Due.enter(x, "30 ?1"), 16);
         due.same("lines", x.lines(), 4);
-        due.same("bytes", Due.bytes(x), "\n\u0001\u0087\u0014\u0001\u0087\u0019\u0002\u0086a\u001e\u0004b=22");
+        due.same("bytes", Due.bytes(x), "\n\u0003a=b\u0014\u0001\u0087\u0019\u0002\u0086a\u001e\u0002?1");
     }
 
     private static void takesAway() {
+        due.sentence("Promise 4: enter", "a number alone takes that line away");
         TapedLines x = Due.with("10 a=1", "20 b=2", "30 c=3");
         due.same("one that is not there", Due.enter(x, "15"), 15);
+        due.same("before all", Due.enter(x, "1"), 15);
+        due.same("behind all", Due.enter(x, "99"), 15);
         due.same("the middle", Due.enter(x, " 20 "), 10);
         due.same("lines", x.lines(), 2);
         due.same("bytes", Due.bytes(x), "\n\u0003a=1\u001e\u0003c=3");
         due.same("the last", Due.enter(x, "30"), 5);
         due.same("the first", Due.enter(x, "10"), 0);
         due.same("none", x.lines(), 0);
-        due.same("none at all", Due.enter(x, "10"), 0);
+        due.same("without lines", Due.enter(x, "10"), 0);
     }
 
-    private static void full() {
-        String row = "?\"" + "x".repeat(45) + "\"";
-        TapedLines x = Due.with("1" + row, "2" + row, "3" + row);
-        due.same("200 bytes", Due.enter(x, "4" + row), 200);
+    private static void answersBytes() {
+        due.sentence("Promise 4: enter", "Answers how many bytes the program has");
+        TapedLines x = new TapedLines();
+        due.same("none", Due.enter(x, "1"), 0);
+        due.same("the fewest", Due.enter(x, "1 END"), 3);
+        due.same("more", Due.enter(x, "2 FOR a = 1 TO 5"), 11);
+        due.same("fewer", Due.enter(x, "1"), 8);
+        TapedLines y = Due.with("1" + ROW_OF_45, "2" + ROW_OF_45, "3" + ROW_OF_45);
+        due.same("200", Due.enter(y, "4" + ROW_OF_45), 200);
+        due.same("200 again", Due.enter(y, "2 ?\"" + "y".repeat(45) + "\""), 200);
+        due.same("fewer", Due.enter(y, "2"), 150);
+    }
+
+    private static void answersFault() {
+        due.sentence("Promise 4: enter", "-1 - p with a fault p");
+        for (int p = 0; p < 60; p++) {
+            TapedLines x = new TapedLines();
+            due.same("a fault at " + p, Due.enter(x, " ".repeat(p) + "!" + " ".repeat(59 - p)), -1 - p);
+        }
+        due.same("a fault at 60", Due.enter(new TapedLines(), " ".repeat(60)), -61);
+        TapedLines full = Due.with("1" + ROW_OF_45, "2" + ROW_OF_45, "3" + ROW_OF_45, "4" + ROW_OF_45);
+        due.same("a fault without room for the line", Due.enter(full, "5 EN"), -5);
+    }
+
+    private static void answersFull() {
+        due.sentence("Promise 4: enter", "FULL if there would be more than 200");
+        TapedLines x = Due.with("1" + ROW_OF_45, "2" + ROW_OF_45, "3" + ROW_OF_45);
+        due.same("201 bytes", Due.enter(x, "4 ?\"" + "x".repeat(46) + "\""), TapedLines.FULL);
+        due.same("200 bytes", Due.enter(x, "4" + ROW_OF_45), 200);
+        due.same("a new line", Due.enter(x, "5 END"), TapedLines.FULL);
+        due.same("a new first line", Due.enter(x, "99 END"), TapedLines.FULL);
+        due.same("a longer one instead of the first", Due.enter(x, "1 ?\"" + "x".repeat(46) + "\""), TapedLines.FULL);
+        due.same("a longer one instead of the last", Due.enter(x, "4 ?\"" + "x".repeat(46) + "\""), TapedLines.FULL);
+        due.same("one as long", Due.enter(x, "4 ?\"" + "y".repeat(45) + "\""), 200);
+        due.same("one that is shorter", Due.enter(x, "4 ?\"" + "y".repeat(42) + "\""), 197);
+        due.same("just room", Due.enter(x, "5 END"), 200);
+        due.same("a number alone that is no line", Due.enter(x, "50"), 200);
+        due.same("a number alone", Due.enter(x, "4"), 153);
+    }
+
+    private static void allElseStays() {
+        due.sentence("Promise 4: enter", "With a fault or FULL all else stays as it was");
+        TapedLines x = Due.with("1 a=5", "2 @(1)=6", "3 ?a", "4" + ROW_OF_45, "5" + ROW_OF_45, "6" + ROW_OF_45,
+                "7 ?\"" + "x".repeat(24) + "\"");
+        x.save();
         x.start();
+        x.run(3);
         String before = Due.all(x);
-        Due.type(x, "5 END");
-        due.same("203 bytes", x.enter(), TapedLines.FULL);
+        x.list(0);
+        due.same("a fault", Due.enter(x, "8 END!"), -6);
+        due.same("the page with a fault", Due.page(x), "1 a=5");
+        due.same("FULL", Due.enter(x, "3" + ROW_OF_45), TapedLines.FULL);
+        due.same("the page with FULL", Due.page(x), "1 a=5");
         due.same("all else", Due.all(x), before);
-        due.same("the text", x.wipe(), 0);
-        due.same("one byte more", Due.enter(x, "4 ?\"" + "x".repeat(46) + "\""), TapedLines.FULL);
-        due.same("all else", Due.all(x), before);
-        due.same("a fault when full", Due.enter(x, "5 EN"), -5);
-        due.same("as many", Due.enter(x, "4 ?\"" + "y".repeat(45) + "\""), 200);
-        due.same("fewer", Due.enter(x, "4 END"), 153);
+        due.same("it runs on", x.run(2), 2);
+        due.same("there", x.place(), 6);
+        x.run(9);
+        due.same("stopped", x.state(), 17);
+        due.same("a fault", Due.enter(x, ""), -1);
+        due.same("still stopped", x.state(), 17);
+        due.same("at its place", x.place(), 6);
+        due.same("FULL", Due.enter(x, "8" + ROW_OF_45), TapedLines.FULL);
+        due.same("still stopped", x.state(), 17);
+        TapedLines y = Due.started("1 END");
+        y.run(1);
+        Due.enter(y, "0");
+        due.same("still ended", y.state(), TapedLines.ENDED);
     }
 
     private static void stopsTheRun() {
-        TapedLines x = Due.started("1 a=7", "2 @(3)=a", "3 ?a", "4 a=1/0");
-        x.run(2);
-        due.same("a fault", Due.enter(x, "9 9"), -3);
-        due.same("runs on", x.state(), TapedLines.RUNNING);
-        due.same("its place", x.place(), 3);
-        x.run(5);
-        due.same("stopped", x.state(), 15);
-        due.same("a number alone", Due.enter(x, "50"), 24);
-        due.same("idle", x.state(), TapedLines.IDLE);
-        due.same("nowhere", x.place(), TapedLines.NONE);
-        due.same("variables stay", x.variable(0), 7);
-        due.same("cells stay", x.cell(3), 7);
-        due.same("output stays", Due.output(x), "7 ");
-        due.throwsThat("run", IllegalStateException.class, () -> x.run(1));
+        due.sentence("Promise 4: enter", "otherwise nothing runs then: IDLE");
+        for (String text : new String[] {"1 b=1", "9 END", "9", "2"}) {
+            TapedLines x = Due.started("1 a=7", "2 @(3)=a", "3 ?a", "4 a=1/0");
+            Due.enter(x, text);
+            due.same("just started, idle behind " + text, x.state(), TapedLines.IDLE);
+            due.same("nowhere", x.place(), TapedLines.NONE);
+            due.throwsThat("run", IllegalStateException.class, () -> x.run(1));
+            TapedLines y = Due.started("1 a=7", "2 @(3)=a", "3 ?a", "4 a=1/0");
+            y.run(9);
+            Due.enter(y, text);
+            due.same("stopped, idle behind " + text, y.state(), TapedLines.IDLE);
+            due.same("nowhere", y.place(), TapedLines.NONE);
+            due.same("variables stay", y.variable(0), 7);
+            due.same("cells stay", y.cell(3), 7);
+            due.same("output stays", Due.output(y), "7 ");
+        }
+        TapedLines z = Due.started("1 END");
+        z.run(1);
+        Due.enter(z, "1 END");
+        due.same("ended, idle then", z.state(), TapedLines.IDLE);
     }
 }
