@@ -131,9 +131,9 @@ public final class LoadTest {
         due.same("half a sum", y.load(), TapedLines.TORN);
         Tapes.put(y, Tapes.tapeOf(1, 0) + "LLLL" + "SSSS".repeat(4));
         due.same("fewer bytes than it tells", y.load(), TapedLines.TORN);
-        int[] many = new int[200];
+        int[] many = new int[101];
         java.util.Arrays.fill(many, 255);
-        due.same("255 bytes are told, fewer are there", Tapes.loadOf(java.util.Arrays.copyOf(many, 101)), TapedLines.TORN);
+        due.same("255 bytes are told, fewer are there", Tapes.loadOf(many), TapedLines.TORN);
     }
 
     private static void behindTheLastByte() {
@@ -197,6 +197,8 @@ public final class LoadTest {
         noStatements();
         noCharacters();
         noSizes();
+        notEndedByTheSum();
+        notLikeTheLineBefore();
     }
 
     private static void noNumbers() {
@@ -275,6 +277,29 @@ public final class LoadTest {
         words[1] = 198;
         wrong("198 words", words);
         wrong("255 bytes 0", new int[255]);
+    }
+
+    /** A last statement that tells one byte more than there is, where the sum's first byte is a digit that would end it. */
+    private static void notEndedByTheSum() {
+        int found = 0;
+        for (int size = 20; size < 190; size++) {
+            int[] program = java.util.Arrays.copyOf(Tapes.oneLineOf(size), size + 4);
+            System.arraycopy(new int[] {50, 3, 'a', '='}, 0, program, size, 4);
+            int digit = Tapes.summed(program)[program.length + 1];
+            if (digit >= '0' && digit <= '9') {
+                wrong("half a statement before the digit " + (char) digit, program);
+                found++;
+            }
+        }
+        due.holds("some sums begin with a digit", found > 0);
+    }
+
+    private static void notLikeTheLineBefore() {
+        wrong("a space at the end, where the line before has one",
+                5, 6, '?', '"', 'a', ' ', 'b', '"', 6, 4, 'a', '=', '1', ' ');
+        wrong("half a statement, where the line before goes on",
+                5, 5, 'a', '=', 'b', '+', '1', 6, 4, 'a', '=', 'b', '+');
+        wrong("nothing, where the line before has END", 5, 1, 135, 6, 0);
     }
 
     private static int[] ends(int lines) {

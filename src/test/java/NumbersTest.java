@@ -13,6 +13,7 @@ public final class NumbersTest {
         compares();
         fromTheLeft();
         ranks();
+        deepest();
         nextLineIsNotRead();
         due.end();
     }
@@ -165,6 +166,22 @@ public final class NumbersTest {
         worth("32767", 32767);
         worth("-".repeat(51) + "1", -1);
         worth("-".repeat(52) + "1", 1);
+    }
+
+    private static void deepest() {
+        due.sentence("Terms", "E lie in one another (by brackets) at most 4 deep.");
+        TapedLines x = Due.started("1 @(2)=3", "2 @(3)=4", "3 @(4)=9", "4 a=(((5)))", "5 b=@(@(@(2)))",
+                "6 c=-(1-(2-(3-4)))");
+        due.same("run", x.run(9), 6);
+        due.same("(((5)))", x.variable(0), 5);
+        due.same("@(@(@(2)))", x.variable(1), 9);
+        due.same("-(1-(2-(3-4)))", x.variable(2), 2);
+        TapedLines y = Due.started("1 @((((1+1))))=(((6+1)))", "2 ?(((8)))", "3 @(@(((2)))-5)=(((-1)))",
+                "4 IF (((1))) GOTO 6", "5 END", "6 FOR d=(((3))) TO (((4)))", "7 NEXT d");
+        due.same("run", y.run(99), 7);
+        due.same("cell 2", y.cell(2), -1);
+        due.same("output", Due.output(y), "8 ");
+        due.same("d", y.variable(3), 5);
     }
 
     private static void nextLineIsNotRead() {

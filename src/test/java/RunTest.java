@@ -36,6 +36,18 @@ public final class RunTest {
         x.start();
         due.same("running again", x.state(), TapedLines.RUNNING);
         due.same("from the first line", x.place(), 5);
+        due.same("as far as before", x.run(9), 1);
+        due.same("stopped again", x.state(), 15);
+        String[] broken = {"7 a=1/0", "7 a=@(16)", "7 @(16)=1", "7 GOTO 8", "7 RETURN", "7 NEXT a", "7 GOSUB 7"};
+        for (String line : broken) {
+            TapedLines y = Due.started(line);
+            y.run(9);
+            Due.enter(y, "7 a=b+5");
+            y.start();
+            due.same("no error is left of " + line, y.run(9), 1);
+            due.same("ended behind " + line, y.state(), TapedLines.ENDED);
+            due.same("a behind " + line, y.variable(0), 5);
+        }
         Due.enter(x, "1 END");
         x.start();
         due.same("a new first line", x.place(), 1);

@@ -31,7 +31,8 @@ public final class SaveTest {
         // The first byte tells how many the program has: 5, that is 101 and five bits 0.
         TapedLines x = Due.with("1 a=1");
         x.save();
-        due.same("the first byte", Due.waves(x).substring(40, 40 + 26), "LL" + "SSSS" + "LL" + "SSSS" + "LL".repeat(5) + "SSSS");
+        String first = "LL" + "SSSS" + "LL" + "SSSS" + "LL".repeat(5) + "SSSS";
+        due.same("the first byte", Due.waves(x).substring(40, 40 + first.length()), first);
         // The highest bit: 135, that is 111 from the lowest on, four bits 0 and a bit 1.
         TapedLines y = Due.with("1 END");
         y.save();
@@ -54,12 +55,12 @@ public final class SaveTest {
         int loop = 10 + 2 * 6 + 3 * 132 + 4 * 'a' + 5 * '=' + 6 * '1' + 7 * 133 + 8 * '5';
         saves("FOR", Tapes.tapeOf(8, 10, 6, 132, 'a', '=', '1', 133, '5', loop / 256, loop % 256),
                 Due.with("10 FOR a=1 TO 5"));
-        saves("two lines", Tapes.tapeOf(Tapes.summed(5, 1, 135, 99, 4, '?', '"', ' ', '"')), Due.with("99 ?\" \"", "5 END"));
+        saves("two lines", Tapes.tapeOf(Tapes.summed(5, 1, 135, 99, 4, '?', '"', ' ', '"')),
+                Due.with("99 ?\" \"", "5 END"));
     }
 
     private static void sums() {
         due.sentence("Terms", "with k = 1, 2, .. the sum of k times byte k, modulo 65536");
-        // A sum below 256: 1, 1, and 3 times 82 is no statement; the least is that of nothing.
         TapedLines none = new TapedLines();
         none.save();
         due.same("the sum of nothing", Due.waves(none).substring(62), Tapes.bytes(0, 0));

@@ -62,7 +62,8 @@ public final class TextTest {
             String tight = line.replace(" ", "");
             TapedLines x = Due.with(tight);
             String bytes = Due.bytes(x);
-            for (String spaced : new String[] {line, line.replace(" ", "  "), "  " + line + "  ", tight + " ", " " + tight}) {
+            String[] ways = {line, line.replace(" ", "  "), "  " + line + "  ", tight + " ", " " + tight};
+            for (String spaced : ways) {
                 due.same("bytes of [" + spaced + "]", Due.bytes(Due.with(spaced)), bytes);
             }
         }
@@ -122,6 +123,11 @@ public final class TextTest {
         due.faulty("", 0);
         due.faulty(" ", 1);
         due.faulty(" ".repeat(60), 60);
+        // The last place may hold the beginning of anything.
+        String[] begun = {"1G", "1R", "1I", "1F", "1N", "1E", "1?", "1@", "1a", "1GO", "1GOS", "1a=", "1a=(", "1a=@"};
+        for (String last : begun) {
+            due.faulty(" ".repeat(60 - last.length()) + last, 60);
+        }
         beginnings("12 FOR a=1 TO 56", 1, 2, 3, 15, 16);
         beginnings("1 IF a GOTO 98", 1, 2, 13, 14);
         beginnings("1 @(b)=c+1", 1, 2, 8, 10);
