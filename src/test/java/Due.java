@@ -1,5 +1,8 @@
 /** Counts and prints the answers that are not the due ones; what the tests have in common. */
 final class Due {
+    // With its line's number and how many they are, 50 bytes.
+    static final String ROW_OF_45 = "?\"" + "x".repeat(45) + "\"";
+
     private int wrong = 0;
     private int asked = 0;
     private int sentences = 0;
@@ -79,7 +82,7 @@ final class Due {
     /** The text has its fault there, and is gone then; all else stays. */
     void faulty(String text, int place) {
         fits(text);
-        TapedLines x = started("50 a=1");
+        Used x = started("50 a=1");
         String before = all(x);
         same("enter of [" + text + "]", enter(x, text), -1 - place);
         same("all else with [" + text + "]", all(x), before);
@@ -89,7 +92,7 @@ final class Due {
     /** The text becomes a line, which is listed so. */
     void becomes(String text, String listed) {
         fits(text);
-        TapedLines x = new TapedLines();
+        Used x = new Used();
         holds("enter of [" + text + "]", enter(x, text) > 0);
         same("[" + text + "] listed", x.lines() == 1 ? listing(x, 0) : "", listed);
     }
@@ -100,19 +103,19 @@ final class Due {
         }
     }
 
-    static void type(TapedLines x, String text) {
+    static void type(Used x, String text) {
         for (int k = 0; k < text.length(); k++) {
             x.type(text.charAt(k));
         }
     }
 
-    static int enter(TapedLines x, String text) {
+    static int enter(Used x, String text) {
         type(x, text);
         return x.enter();
     }
 
-    static TapedLines with(String... lines) {
-        TapedLines x = new TapedLines();
+    static Used with(String... lines) {
+        Used x = new Used();
         for (String line : lines) {
             fits(line);
             int answer = enter(x, line);
@@ -123,31 +126,37 @@ final class Due {
         return x;
     }
 
-    static TapedLines started(String... lines) {
-        TapedLines x = with(lines);
+    /** A program of 200 bytes in four lines, for 204 calls. */
+    static Used with200() {
+        return with("1" + ROW_OF_45, "2" + ROW_OF_45, "3" + ROW_OF_45, "4" + ROW_OF_45);
+    }
+
+    static Used started(String... lines) {
+        Used x = with(lines);
         x.start();
         return x;
     }
 
-    static String page(TapedLines x) {
+    static String page(Used x) {
         StringBuilder page = new StringBuilder();
-        for (int k = 0; k < x.length(); k++) {
+        int length = x.length();
+        for (int k = 0; k < length; k++) {
             page.append(x.charAt(k));
         }
         return page.toString();
     }
 
-    static String listing(TapedLines x, int i) {
+    static String listing(Used x, int i) {
         x.list(i);
         return page(x);
     }
 
-    static String output(TapedLines x) {
+    static String output(Used x) {
         x.output();
         return page(x);
     }
 
-    static String bytes(TapedLines x) {
+    static String bytes(Used x) {
         StringBuilder row = new StringBuilder();
         for (int k = 0; k < 1000; k++) {
             try {
@@ -160,20 +169,21 @@ final class Due {
     }
 
     /** The half-waves as L and S. */
-    static String waves(TapedLines x) {
+    static String waves(Used x) {
         StringBuilder row = new StringBuilder();
-        for (int k = 0; k < x.waves(); k++) {
+        int waves = x.waves();
+        for (int k = 0; k < waves; k++) {
             row.append(x.wave(k) > 8 ? 'L' : 'S');
         }
         return row.toString();
     }
 
     /** All that can be asked without changing anything but the page. */
-    static String all(TapedLines x) {
+    static String all(Used x) {
         return x.state() + " " + allButState(x);
     }
 
-    static String allButState(TapedLines x) {
+    static String allButState(Used x) {
         StringBuilder all = new StringBuilder();
         all.append(x.place()).append(' ').append(x.lines());
         all.append('[').append(bytes(x)).append(']');
@@ -183,7 +193,8 @@ final class Due {
         for (int k = 0; k < 16; k++) {
             all.append(x.cell(k)).append(' ');
         }
-        for (int k = 0; k < x.waves(); k++) {
+        int waves = x.waves();
+        for (int k = 0; k < waves; k++) {
             all.append(x.wave(k)).append('~');
         }
         return all.append('[').append(output(x)).append(']').toString();

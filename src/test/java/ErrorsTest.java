@@ -33,7 +33,7 @@ public final class ErrorsTest {
 
     /** The run meets the error there, when so many statements have been done. */
     private static void stops(int error, int place, int done, String... lines) {
-        TapedLines x = Due.started(lines);
+        Used x = Due.started(lines);
         String what = String.join(" : ", lines);
         due.same("run of " + what, x.run(1000), done);
         due.same("state of " + what, x.state(), 10 + error);
@@ -43,7 +43,7 @@ public final class ErrorsTest {
     }
 
     private static void ends(int done, String... lines) {
-        TapedLines x = Due.started(lines);
+        Used x = Due.started(lines);
         String what = String.join(" : ", lines);
         due.same("run of " + what, x.run(1000), done);
         due.same("state of " + what, x.state(), TapedLines.ENDED);
@@ -122,7 +122,7 @@ public final class ErrorsTest {
         stops(4, 7, 6, and(SIX_LOOPS, "7 FOR g=1 TO 1"));
         ends(6, SIX_LOOPS);
         stops(4, 1, 6, "1 GOSUB 1");
-        TapedLines x = Due.started("1 GOSUB 1");
+        Used x = Due.started("1 GOSUB 1");
         due.same("six", x.run(6), 6);
         due.same("still running", x.state(), TapedLines.RUNNING);
         due.same("a seventh", x.run(1), 0);
@@ -156,7 +156,7 @@ public final class ErrorsTest {
     private static void cells() {
         due.sentence("Terms", "CELLS 0 .. 15 (@)");
         for (int k = 0; k < 16; k++) {
-            TapedLines x = Due.started("1 @(" + k + ")=77", "2 a=@(" + k + ")", "3 b=@(" + (15 - k) + ")");
+            Used x = Due.started("1 @(" + k + ")=77", "2 a=@(" + k + ")", "3 b=@(" + (15 - k) + ")");
             due.same("run with cell " + k, x.run(9), 3);
             due.same("a of cell " + k, x.variable(0), 77);
             due.same("b of another cell than " + k, x.variable(1), 0);
@@ -187,14 +187,14 @@ public final class ErrorsTest {
 
     private static void outputRoom() {
         due.sentence("Terms", "OUTPUT, at most 100 characters");
-        TapedLines x = Due.started("1 ?\"\"", "2 ?9", "3 GOTO 2");
+        Used x = Due.started("1 ?\"\"", "2 ?9", "3 GOTO 2");
         due.same("fifty numbers", x.run(1000), 101);
         due.same("100 characters", x.output(), 100);
         due.same("stopped", x.state(), 17);
-        TapedLines y = Due.started("1 ?-32767", "2 GOTO 1");
+        Used y = Due.started("1 ?-32767", "2 GOTO 1");
         due.same("fourteen numbers", y.run(1000), 28);
         due.same("98 characters", y.output(), 98);
-        TapedLines z = Due.started("1 ?\"0123456789\"", "2 GOTO 1");
+        Used z = Due.started("1 ?\"0123456789\"", "2 GOTO 1");
         due.same("ten rows", z.run(1000), 20);
         due.same("100 characters", z.output(), 100);
     }
@@ -208,7 +208,7 @@ public final class ErrorsTest {
         ends(22, and(OUTPUT_OF_99, "5 ?\"1\"", "6 ?\"\""));
         stops(7, 6, 21, and(OUTPUT_OF_99, "5 ?\"1\"", "6 ?\" \""));
         stops(7, 6, 21, and(OUTPUT_OF_99, "5 ?\"1\"", "6 ?0"));
-        TapedLines full = Due.started(and(OUTPUT_OF_99, "5 ?\"1\""));
+        Used full = Due.started(and(OUTPUT_OF_99, "5 ?\"1\""));
         full.run(99);
         due.same("100 characters", full.output(), 100);
         String[] of98 = and(OUTPUT_OF_99);
@@ -221,22 +221,22 @@ public final class ErrorsTest {
         ends(21, and(of93, "5 ?-32767-1"));
         of93[3] = "4 ?\"1234\"";
         stops(7, 5, 20, and(of93, "5 ?-32767-1"));
-        TapedLines cut = Due.started(and(OUTPUT_OF_99, "5 ?12345"));
+        Used cut = Due.started(and(OUTPUT_OF_99, "5 ?12345"));
         cut.run(99);
         due.same("nothing of what has no room is written", cut.output(), 99);
     }
 
     /** The last line meets the error when all before it have been done, and changes nothing. */
     private static void doesNothing(int error, int before, String... lines) {
-        TapedLines x = Due.started(lines);
+        Used x = Due.started(lines);
         String what = lines[lines.length - 1] + " behind " + before;
         due.same("run before " + what, x.run(before), before);
-        String all = Due.allButState(x);
-        int place = x.place();
+        Used twin = Due.started(lines);
+        twin.run(before);
         due.same("run of " + what, x.run(1), 0);
         due.same("state of " + what, x.state(), 10 + error);
-        due.same("place of " + what, x.place(), place);
-        due.same("all else of " + what, Due.allButState(x), all);
+        due.same("place of " + what, x.place(), twin.place());
+        due.same("all else of " + what, Due.allButState(x), Due.allButState(twin));
         due.throwsThat("run behind " + what, IllegalStateException.class, () -> x.run(1));
     }
 
@@ -259,7 +259,7 @@ public final class ErrorsTest {
         }
         doesNothing(7, 20, and(OUTPUT_OF_99, "5 ?\"12\""));
         doesNothing(7, 20, and(OUTPUT_OF_99, "5 ?1"));
-        TapedLines x = Due.started("1 a=1/0", "2 b=1");
+        Used x = Due.started("1 a=1/0", "2 b=1");
         x.run(9);
         due.same("what stands behind it is not done", x.variable(1), 0);
     }

@@ -41,7 +41,7 @@ public final class FaultModelTest {
     }
 
     private static void look(Due due, String text) {
-        TapedLines x = new TapedLines();
+        Used x = new Used();
         int fault = Grammar.fault(TEXTS, text);
         if (fault >= 0) {
             due.same("enter of [" + text + "]", Due.enter(x, text), -1 - fault);

@@ -1,7 +1,8 @@
 /** Terms: TAPE with LOADING; promise 16 load. */
 public final class LoadTest {
-    // A line END: 156 half-waves.
+    // A line END: 156 half-waves, behind ten bits 1.
     private static final String END_BYTES = Tapes.bytes(Tapes.summed(1, 1, 135));
+    private static final String END_TAPE = Tapes.tapeOf(Tapes.summed(1, 1, 135));
 
     private static final Due due = new Due();
 
@@ -22,44 +23,44 @@ public final class LoadTest {
     }
 
     private static void loads(String what, String row, int want) {
-        due.same("load of " + what, Tapes.longTapeWith(row).load(), want);
+        due.same("load of " + what, Tapes.beginningWith(row).load(), want);
+    }
+
+    /** A line END on tape as it is saved. */
+    private static Used saved() {
+        Used x = Due.with("1 END");
+        x.save();
+        return x;
     }
 
     private static void longAbove8() {
         due.sentence("Terms", "LOADING: a half-wave is LONG if it is above 8.");
-        TapedLines x = Due.with("1 END");
-        x.save();
-        String row = Due.waves(x);
         for (int length = 1; length <= 100; length++) {
-            setAll(x, row, 'L', length);
-            due.same("long ones of " + length, x.load(), length > 8 ? 1 : TapedLines.TORN);
-        }
-        for (int length = 1; length <= 100; length++) {
-            setAll(x, row, 'S', length);
-            due.same("short ones of " + length, x.load(), length > 8 ? TapedLines.TORN : 1);
+            due.same("long ones of " + length, loadWithAll('L', length), length > 8 ? 1 : TapedLines.TORN);
+            due.same("short ones of " + length, loadWithAll('S', length), length > 8 ? TapedLines.TORN : 1);
         }
     }
 
-    private static void setAll(TapedLines x, String row, char kind, int length) {
-        for (int k = 0; k < row.length(); k++) {
-            if (row.charAt(k) == kind) {
+    private static int loadWithAll(char kind, int length) {
+        Used x = saved();
+        for (int k = 0; k < END_TAPE.length(); k++) {
+            if (END_TAPE.charAt(k) == kind) {
                 x.setWave(k, length);
             }
         }
+        return x.load();
     }
 
     private static void tornBits() {
         due.sentence("Terms", "Bits are read from the beginning: what is neither two LONG nor four SHORT half-waves"
                 + " is TORN.");
-        TapedLines x = Due.with("1 END");
-        int size = x.save();
-        String row = Due.waves(x);
-        for (int k = 0; k < size; k++) {
-            int was = x.setWave(k, row.charAt(k) == 'L' ? 8 : 9);
+        for (int k = 0; k < END_TAPE.length(); k++) {
+            Used x = saved();
+            int was = x.setWave(k, END_TAPE.charAt(k) == 'L' ? 8 : 9);
             due.same("half-wave " + k + " turned", x.load(), TapedLines.TORN);
             x.setWave(k, was);
+            due.same("half-wave " + k + " turned back", x.load(), 1);
         }
-        due.same("none turned", x.load(), 1);
         for (String bit : new String[] {"LS", "LSSS", "LSLL", "SL", "SLSS", "SLLL", "SSL", "SSLL", "SSLS", "SSSL"}) {
             loads(bit + " at the beginning", bit + END_BYTES, TapedLines.TORN);
             loads(bit + " before a byte", "SSSS" + bit + END_BYTES, TapedLines.TORN);
@@ -72,9 +73,13 @@ public final class LoadTest {
 
     private static void passesOver() {
         due.sentence("Terms", "Bits 1 before a byte are passed over.");
-        for (int ones : new int[] {0, 1, 2, 9, 10, 11, 100, 1000}) {
+        for (int ones : new int[] {0, 1, 2, 9, 10, 11, 100}) {
             loads(ones + " bits 1 before", "SSSS".repeat(ones) + END_BYTES, 1);
         }
+        String many = "SSSS".repeat(1000);
+        Used far = Tapes.allShort(4000 + END_BYTES.length());
+        Tapes.change(far, many + "S".repeat(END_BYTES.length()), many + END_BYTES);
+        due.same("1000 bits 1 before", far.load(), 1);
         StringBuilder between = new StringBuilder();
         int more = 1;
         for (int value : Tapes.summed(1, 1, 135)) {
@@ -106,34 +111,33 @@ public final class LoadTest {
 
     private static void endsBefore() {
         due.sentence("Terms", "a tape that ends before the last byte");
-        due.same("an empty tape", new TapedLines().load(), TapedLines.TORN);
+        due.same("an empty tape", new Used().load(), TapedLines.TORN);
         // Tapes of 196 and 198 half-waves; END with bits 1 before it is so many half-waves too long for them.
-        for (String line : new String[] {"1 END", "2 END"}) {
+        for (int number = 1; number <= 3; number += 2) {
+            String tape = Tapes.tapeOf(Tapes.summed(number, 1, 135));
             for (int cut = -2; cut <= 156; cut++) {
-                TapedLines x = Due.with(line);
-                int ones = x.save() + cut - END_BYTES.length();
+                int ones = tape.length() + cut - END_BYTES.length();
                 if (ones % 4 == 0) {
                     String row = "S".repeat(ones) + END_BYTES;
-                    Tapes.put(x, row.substring(0, Math.min(row.length(), x.waves())));
-                    due.same(line + " cut by " + cut, x.load(), cut <= 0 ? 1 : TapedLines.TORN);
+                    Used x = Due.with(number + "END");
+                    due.same("save of " + number, x.save(), tape.length());
+                    Tapes.change(x, tape, row.substring(0, Math.min(row.length(), tape.length())));
+                    due.same(number + " cut by " + cut, x.load(), cut <= 0 ? 1 : TapedLines.TORN);
                 }
             }
         }
-        TapedLines y = new TapedLines();
-        y.save();
-        Tapes.put(y, "S".repeat(106));
-        due.same("bits 1 alone", y.load(), TapedLines.TORN);
-        Tapes.put(y, "S".repeat(104) + "LL");
-        due.same("the beginning of a byte alone", y.load(), TapedLines.TORN);
-        Tapes.put(y, "S".repeat(40) + Tapes.bytes(0) + "S".repeat(44));
-        due.same("no sum", y.load(), TapedLines.TORN);
-        Tapes.put(y, "S".repeat(60) + Tapes.bytes(0, 0) + "SS");
-        due.same("half a sum", y.load(), TapedLines.TORN);
-        Tapes.put(y, Tapes.tapeOf(1, 0) + "LLLL" + "SSSS".repeat(4));
-        due.same("fewer bytes than it tells", y.load(), TapedLines.TORN);
-        int[] many = new int[101];
-        java.util.Arrays.fill(many, 255);
-        due.same("255 bytes are told, fewer are there", Tapes.loadOf(many), TapedLines.TORN);
+        tornEmpty("bits 1 alone", "S".repeat(106));
+        tornEmpty("the beginning of a byte alone", "S".repeat(104) + "LL");
+        tornEmpty("no sum", "S".repeat(40) + Tapes.bytes(0) + "S".repeat(44));
+        tornEmpty("half a sum", "S".repeat(60) + Tapes.bytes(0, 0) + "SS");
+        tornEmpty("fewer bytes than it tells", Tapes.tapeOf(1, 0) + "LLLL" + "SSSS".repeat(4));
+        tornEmpty("255 bytes are told, one is there", Tapes.tapeOf(255, 7));
+    }
+
+    /** The tape of no lines, which has 106 half-waves, is torn with this row on it. */
+    private static void tornEmpty(String what, String row) {
+        due.same("half-waves of " + what, row.length(), 106);
+        loads(what, row, TapedLines.TORN);
     }
 
     private static void behindTheLastByte() {
@@ -179,7 +183,8 @@ public final class LoadTest {
         due.same("1 for nothing", Tapes.loadOf(0, 0, 1), TapedLines.WRONG);
         due.same("256 for nothing", Tapes.loadOf(0, 1, 0), TapedLines.WRONG);
         due.same("0 for nothing", Tapes.loadOf(0, 0, 0), 0);
-        TapedLines x = Tapes.longTape();
+        Used x = Due.with200();
+        x.save();
         due.same("a sum that wraps", x.load(), 4);
     }
 
@@ -264,30 +269,28 @@ public final class LoadTest {
 
     private static void noSizes() {
         right("none", 0);
-        right("one statement of 198 bytes", 1, Tapes.oneLineOf(200));
-        for (int size : new int[] {201, 202, 240, 255}) {
-            wrong(size + " bytes", Tapes.oneLineOf(size));
+        due.same("one statement of 198 bytes", LongTapes.withOneStatement().load(), 1);
+        due.same("200 bytes", LongTapes.with200().load(), 5);
+        due.same("201 bytes", LongTapes.with201().load(), TapedLines.WRONG);
+        wrong("words alone", 5, 8, 130, 130, 130, 130, 130, 130, 130, 130);
+        wrong("bytes 0 alone", new int[14]);
+        Used x = new Used();
+        for (int k = 1; k <= 66; k++) {
+            Due.enter(x, k + "END");
         }
-        right("66 lines", 66, ends(66));
-        wrong("67 lines", ends(67));
-        wrong("80 lines", ends(80));
-        int[] words = new int[200];
-        java.util.Arrays.fill(words, 130);
-        words[0] = 1;
-        words[1] = 198;
-        wrong("198 words", words);
-        wrong("255 bytes 0", new int[255]);
+        x.save();
+        due.same("66 lines", x.load(), 66);
     }
 
     /** A last statement that tells one byte more than there is, where the sum's first byte is a digit that would end it. */
     private static void notEndedByTheSum() {
         int found = 0;
-        for (int size = 20; size < 190; size++) {
-            int[] program = java.util.Arrays.copyOf(Tapes.oneLineOf(size), size + 4);
-            System.arraycopy(new int[] {50, 3, 'a', '='}, 0, program, size, 4);
-            int digit = Tapes.summed(program)[program.length + 1];
+        for (int size = 5; size < 20; size++) {
+            String program = "\u0007" + (char) (size - 2) + "?\"" + "~".repeat(size - 5) + "\"2\u0003a=";
+            int[] bytes = program.chars().toArray();
+            int digit = Tapes.summed(bytes)[bytes.length + 1];
             if (digit >= '0' && digit <= '9') {
-                wrong("half a statement before the digit " + (char) digit, program);
+                wrong("half a statement before the digit " + (char) digit, bytes);
                 found++;
             }
         }
@@ -302,19 +305,9 @@ public final class LoadTest {
         wrong("nothing, where the line before has END", 5, 1, 135, 6, 0);
     }
 
-    private static int[] ends(int lines) {
-        int[] program = new int[3 * lines];
-        for (int k = 0; k < lines; k++) {
-            program[3 * k] = k + 1;
-            program[3 * k + 1] = 1;
-            program[3 * k + 2] = 135;
-        }
-        return program;
-    }
-
     private static void loads() {
         due.sentence("Promise 16: load", "LOADING: how many lines there are then, in the place of the old program");
-        TapedLines x = Due.with("10 FOR a=1 TO 5", "20 ?\" x \"", "30 @(((-a)))=1<2", "40 IF a GOTO 1");
+        Used x = Due.with("10 FOR a=1 TO 5", "20 ?\" x \"", "30 @(((-a)))=1<2", "40 IF a GOTO 1");
         String bytes = Due.bytes(x);
         x.save();
         Due.enter(x, "20");
@@ -326,13 +319,13 @@ public final class LoadTest {
         due.same("listed", Due.listing(x, 1), "20 ?\" x \"");
         due.same("the tape stays", x.load(), 4);
         due.same("it wobbles", loadWobbled(x, 25), 4);
-        TapedLines y = new TapedLines();
+        Used y = new Used();
         y.save();
         Due.enter(y, "1 END");
         due.same("load of nothing", y.load(), 0);
         due.same("no line", y.lines(), 0);
         due.same("no byte", Due.bytes(y), "");
-        TapedLines z = Tapes.longTapeWith(END_BYTES);
+        Used z = Tapes.beginningWith(END_BYTES + Tapes.bytes(0, 0, 0, 0));
         due.same("a short one in the place of a long one", z.load(), 1);
         due.same("bytes", Due.bytes(z), "\u0001\u0001\u0087");
         z.start();
@@ -341,7 +334,7 @@ public final class LoadTest {
     }
 
     // 12 becomes 9 .. 15 and 6 becomes 4 .. 7.
-    private static int loadWobbled(TapedLines x, int percent) {
+    private static int loadWobbled(Used x, int percent) {
         x.wobble(-5, percent);
         return x.load();
     }
@@ -351,7 +344,7 @@ public final class LoadTest {
         String[][] programs = {{"1 a=7", "2 ?a", "3 @(0)=a", "4 GOTO 4"}, {"1 a=7", "2 ?a", "3 @(0)=a", "4 END"},
             {"1 a=7", "2 ?a", "3 @(0)=a", "4 RETURN"}};
         for (String[] program : programs) {
-            TapedLines x = Due.started(program);
+            Used x = Due.started(program);
             x.save();
             x.run(9);
             x.list(3);
@@ -367,7 +360,7 @@ public final class LoadTest {
             due.same("the page stays", Due.page(x), page);
             due.same("the output stays", Due.output(x), "7 ");
         }
-        TapedLines y = new TapedLines();
+        Used y = new Used();
         y.save();
         y.start();
         due.same("load of nothing", y.load(), 0);
@@ -381,29 +374,41 @@ public final class LoadTest {
         stays("torn at the end", END_BYTES.substring(0, 152) + "LLLL", TapedLines.TORN);
         stays("another sum", Tapes.bytes(3, 1, 1, 135, 0, 0), TapedLines.WRONG);
         stays("no program", Tapes.bytes(Tapes.summed(1, 1, 134)), TapedLines.WRONG);
-        stays("a line, and another that is none", Tapes.bytes(Tapes.summed(1, 1, 135, 2, 1, 134)), TapedLines.WRONG);
+        stays("a line, and a number alone", Tapes.bytes(Tapes.summed(1, 1, 135, 2)), TapedLines.WRONG);
     }
 
-    private static void stays(String what, String row, int answer) {
-        TapedLines x = Due.with("1 FOR a=1 TO 9", "2 GOSUB 4", "3 END", "4 ?a", "5 NEXT a", "6 @(2)=a", "7 RETURN");
+    /** Line 4 has been run with a loop and a return kept; the tape may begin with a row. */
+    private static Used busy(String row) {
+        Used x = new Used();
         if (row != null) {
-            x.save();
-            Tapes.put(x, row);
+            // A tape of few half-waves, so that all of them can be asked.
+            x = saved();
+            String more = row + END_TAPE.substring(Math.min(row.length(), END_TAPE.length()));
+            Tapes.change(x, END_TAPE, more);
+        }
+        for (String line : new String[] {"1FORa=1TO9", "2GOSUB4", "3END", "4?a", "5NEXTa"}) {
+            Due.enter(x, line);
         }
         x.start();
         x.run(4);
-        String before = Due.all(x);
-        x.list(0);
-        Due.type(x, "123");
+        return x;
+    }
+
+    private static void stays(String what, String row, int answer) {
+        Used x = busy(row);
         due.same(what, x.load(), answer);
-        due.same("the page behind " + what, Due.page(x), "1 FOR a=1 TO 9");
-        due.same("the text behind " + what, x.wipe(), 3);
-        due.same("all else behind " + what, Due.all(x), before);
+        due.same("all else behind " + what, Due.all(x), Due.all(busy(row)));
+        Used y = busy(row);
+        y.list(0);
+        Due.type(y, "123");
+        due.same(what + " with a page and a text", y.load(), answer);
+        due.same("the page behind " + what, Due.page(y), "1 FOR a=1 TO 9");
+        due.same("the text behind " + what, y.wipe(), 3);
         // Its loop and its return are still there: 2, 4 and 5 five times more, then six returns are kept.
-        due.same("it runs on behind " + what, x.run(1000), 15);
-        due.same("as far as it would behind " + what, x.state(), 14);
-        due.same(what + " when stopped", x.load(), answer);
-        due.same("still stopped behind " + what, x.state(), 14);
-        due.same("at its place behind " + what, x.place(), 2);
+        due.same("it runs on behind " + what, y.run(1000), 15);
+        due.same("as far as it would behind " + what, y.state(), 14);
+        due.same(what + " when stopped", y.load(), answer);
+        due.same("still stopped behind " + what, y.state(), 14);
+        due.same("at its place behind " + what, y.place(), 2);
     }
 }

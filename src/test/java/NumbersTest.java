@@ -6,6 +6,7 @@ public final class NumbersTest {
     private static final Due due = new Due();
 
     public static void main(String[] args) {
+        variables();
         wraps();
         wrapsAlone();
         rounds();
@@ -24,13 +25,13 @@ public final class NumbersTest {
 
     /** c after c = a and b with the mark between, in a run of its own. */
     private static int worth(int a, char mark, int b) {
-        TapedLines x = Due.started("1 a=" + told(a), "2 b=" + told(b), "3 c=a" + mark + "b");
+        Used x = Due.started("1 a=" + told(a), "2 b=" + told(b), "3 c=a" + mark + "b");
         due.same("steps of " + a + mark + b, x.run(9), 3);
         return x.variable(2);
     }
 
     private static void worth(String expression, int want) {
-        TapedLines x = Due.started("1 h=-32767-1", "2 g=32767", "3 a=" + expression);
+        Used x = Due.started("1 h=-32767-1", "2 g=32767", "3 a=" + expression);
         due.same("steps of " + expression, x.run(9), 3);
         due.same(expression, x.variable(0), want);
     }
@@ -38,6 +39,19 @@ public final class NumbersTest {
     private static int wrapped(int value) {
         int low = value & 65535;
         return low > 32767 ? low - 65536 : low;
+    }
+
+    private static void variables() {
+        due.sentence("Terms", "There are variables a .. h");
+        for (char v = 'a'; v <= 'h'; v++) {
+            Used x = Due.started("1 " + v + "=" + (v + 1), "2 @(3)=" + v, "3 ?" + v);
+            due.same("steps with " + v, x.run(9), 3);
+            due.same("cell 3 with " + v, x.cell(3), v + 1);
+            due.same("output with " + v, Due.output(x), (v + 1) + " ");
+            for (int k = 0; k < 8; k++) {
+                due.same("variable " + k + " with " + v, x.variable(k), k == v - 'a' ? v + 1 : 0);
+            }
+        }
     }
 
     private static void wraps() {
@@ -74,7 +88,7 @@ public final class NumbersTest {
         worth("-0", 0);
         worth("---4", -4);
         worth("-(h+1)", 32767);
-        TapedLines x = Due.started("1 FOR a=32767 TO 32767", "2 NEXT a");
+        Used x = Due.started("1 FOR a=32767 TO 32767", "2 NEXT a");
         x.run(2);
         due.same("NEXT wraps", x.variable(0), -32768);
     }
@@ -170,13 +184,13 @@ public final class NumbersTest {
 
     private static void deepest() {
         due.sentence("Terms", "E lie in one another (by brackets) at most 4 deep.");
-        TapedLines x = Due.started("1 @(2)=3", "2 @(3)=4", "3 @(4)=9", "4 a=(((5)))", "5 b=@(@(@(2)))",
+        Used x = Due.started("1 @(2)=3", "2 @(3)=4", "3 @(4)=9", "4 a=(((5)))", "5 b=@(@(@(2)))",
                 "6 c=-(1-(2-(3-4)))");
         due.same("run", x.run(9), 6);
         due.same("(((5)))", x.variable(0), 5);
         due.same("@(@(@(2)))", x.variable(1), 9);
         due.same("-(1-(2-(3-4)))", x.variable(2), 2);
-        TapedLines y = Due.started("1 @((((1+1))))=(((6+1)))", "2 ?(((8)))", "3 @(@(((2)))-5)=(((-1)))",
+        Used y = Due.started("1 @((((1+1))))=(((6+1)))", "2 ?(((8)))", "3 @(@(((2)))-5)=(((-1)))",
                 "4 IF (((1))) GOTO 6", "5 END", "6 FOR d=(((3))) TO (((4)))", "7 NEXT d");
         due.same("run", y.run(99), 7);
         due.same("cell 2", y.cell(2), -1);
@@ -188,17 +202,17 @@ public final class NumbersTest {
         due.sentence("Terms", "Statements are done one after the other");
         // The next line's number may be a digit's or an operator's code, and how many bytes it has, too.
         for (int number = 5; number <= 99; number++) {
-            TapedLines x = Due.started("1 b=3", "2 c=12", "3 ?c", "4 a=b", number + " d=c");
+            Used x = Due.started("1 b=3", "2 c=12", "3 ?c", "4 a=b", number + " d=c");
             due.same("run before line " + number, x.run(9), 5);
             due.same("a before line " + number, x.variable(0), 3);
             due.same("d in line " + number, x.variable(3), 12);
-            TapedLines y = Due.started("1 c=12", number + " d=5");
+            Used y = Due.started("1 c=12", number + " d=5");
             due.same("run of two before line " + number, y.run(9), 2);
             due.same("c before line " + number, y.variable(2), 12);
-            TapedLines z = Due.started("1 GOTO 4", "2 END", "3 a=1", "4 GOSUB 3", number + " END");
+            Used z = Due.started("1 GOTO 4", "2 END", "3 a=1", "4 GOSUB 3", number + " END");
             due.same("jumps before line " + number, z.run(4), 4);
         }
-        TapedLines row = Due.started("1 a=4", "2 ?\"" + "x".repeat(42) + "\"", "3 b=5");
+        Used row = Due.started("1 a=4", "2 ?\"" + "x".repeat(42) + "\"", "3 b=5");
         due.same("a row of 45 bytes behind", row.run(9), 3);
         due.same("a", row.variable(0), 4);
     }

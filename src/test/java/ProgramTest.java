@@ -20,7 +20,7 @@ public final class ProgramTest {
     }
 
     private static void bytesOf(String text, int... want) {
-        TapedLines x = Due.with(text);
+        Used x = Due.with(text);
         due.same("bytes of [" + text + "]", Due.bytes(x).length(), 2 + want.length);
         due.same("how many it tells of [" + text + "]", x.programByte(1), want.length);
         for (int k = 0; k < want.length; k++) {
@@ -49,33 +49,33 @@ public final class ProgramTest {
     private static void program() {
         due.sentence("Terms", "THE PROGRAM are for each line, by rising numbers, its number, how many bytes its"
                 + " statement has, and these");
-        TapedLines x = new TapedLines();
+        Used x = new Used();
         due.same("without lines", Due.bytes(x), "");
         for (String line : new String[] {"99 END", "9 a=1", "10 RETURN", "1 ?\"\"", "2 NEXT b"}) {
             Due.enter(x, line);
         }
         due.same("bytes", Due.bytes(x),
                 "\u0001\u0003?\"\"\u0002\u0002\u0086b\t\u0003a=1\n\u0001\u0082c\u0001\u0087");
-        TapedLines longest = Due.with("9?\"" + "x".repeat(56) + "\"");
+        Used longest = Due.with("9?\"" + "x".repeat(56) + "\"");
         due.same("59 bytes of a text of 60 characters", longest.programByte(1), 59);
     }
 
     private static void atMost200() {
         due.sentence("Terms", "at most 200 bytes in all");
-        TapedLines x = new TapedLines();
+        Used x = new Used();
         for (int k = 1; k <= 66; k++) {
             due.same("enter", Due.enter(x, k + "END"), 3 * k);
         }
         due.same("198 and 3", Due.enter(x, "67 END"), TapedLines.FULL);
         due.same("198 and 2", Due.enter(x, "66 a=1"), 200);
         due.same("200 and 1", Due.enter(x, "65 ?1"), TapedLines.FULL);
-        due.same("bytes", Due.bytes(x).length(), 200);
         due.same("the last", x.programByte(199), '1');
+        due.throwsThat("no more", IndexOutOfBoundsException.class, () -> x.programByte(200));
     }
 
     private static void lines() {
         due.sentence("Promise 5: lines", "How many lines there are.");
-        TapedLines x = new TapedLines();
+        Used x = new Used();
         due.same("none", x.lines(), 0);
         for (int k = 1; k <= 66; k++) {
             Due.enter(x, k + "END");
@@ -98,7 +98,7 @@ public final class ProgramTest {
     private static void lists() {
         due.sentence("Promise 6: list", "Writes line i (from 0, by numbers) on the page, instead of what was there:"
                 + " its number, a space, and its bytes");
-        TapedLines x = Due.with("99 a=1", "9 b=22", "10 c=333");
+        Used x = Due.with("99 a=1", "9 b=22", "10 c=333");
         String[] listed = {"9 b=22", "10 c=333", "99 a=1"};
         for (int k : new int[] {0, 1, 2, 1, 0}) {
             due.same("list", x.list(k), listed[k].length());
@@ -107,13 +107,17 @@ public final class ProgramTest {
         }
         due.same("nothing is left of a longer one", x.charAt(6), ' ');
         String longest = "1 ?\"" + "~".repeat(56) + "\"";
-        TapedLines y = Due.with(longest.replace("1 ", "1"));
+        Used y = Due.with(longest.replace("1 ", "1"));
         due.same("a longest line", y.list(0), 61);
         due.same("its page", Due.page(y), longest);
-        TapedLines z = Tapes.longTapeWith(Tapes.tapeOf(Tapes.summed(Tapes.oneLineOf(200))));
+        Used z = LongTapes.withOneStatement();
         z.load();
         due.same("the longest from a tape", z.list(0), 200);
-        due.same("its page", Due.page(z), "7 ?\"" + " ".repeat(195) + "\"");
+        due.same("its length", z.length(), 200);
+        String page = "1 " + LongTapes.rowOfOneStatement();
+        for (int p : new int[] {0, 1, 2, 3, 4, 5, 99, 100, 194, 195, 196, 197, 198, 199}) {
+            due.same("character " + p + " of its page", z.charAt(p), page.charAt(p));
+        }
     }
 
     private static void listsWords() {
@@ -133,7 +137,7 @@ public final class ProgramTest {
 
     private static void refusesToList() {
         due.sentence("Promise 6: list", "IndexOutOfBounds: there is no such line.");
-        TapedLines x = new TapedLines();
+        Used x = new Used();
         for (int i : new int[] {0, -1, 1, Integer.MIN_VALUE, Integer.MAX_VALUE}) {
             due.throwsThat("without lines, list " + i, IndexOutOfBoundsException.class, () -> x.list(i));
         }
@@ -152,7 +156,7 @@ public final class ProgramTest {
 
     private static void programBytes() {
         due.sentence("Promise 7: programByte", "Byte i of the program.");
-        TapedLines x = Due.with("1 GOTO 2", "2 IF a GOTO 99", "99 END");
+        Used x = Due.with("1 GOTO 2", "2 IF a GOTO 99", "99 END");
         int[] want = {1, 2, 128, '2', 2, 5, 131, 'a', 128, '9', '9', 99, 1, 135};
         for (int k = 0; k < want.length; k++) {
             due.same("byte " + k, x.programByte(k), want[k]);
@@ -161,7 +165,7 @@ public final class ProgramTest {
 
     private static void refusesProgramBytes() {
         due.sentence("Promise 7: programByte", "IndexOutOfBounds: there is none such.");
-        TapedLines x = new TapedLines();
+        Used x = new Used();
         for (int i : new int[] {0, -1, 1, 199, 200, Integer.MIN_VALUE, Integer.MAX_VALUE}) {
             due.throwsThat("without lines, byte " + i, IndexOutOfBoundsException.class, () -> x.programByte(i));
         }
@@ -172,7 +176,7 @@ public final class ProgramTest {
         }
         Due.enter(x, "7 END");
         due.throwsThat("a byte that went", IndexOutOfBoundsException.class, () -> x.programByte(3));
-        TapedLines full = Tapes.longTape();
+        Used full = Due.with200();
         due.same("the last of 200", full.programByte(199), '"');
         due.throwsThat("byte 200 of 200", IndexOutOfBoundsException.class, () -> full.programByte(200));
     }
@@ -180,7 +184,7 @@ public final class ProgramTest {
     private static void output() {
         due.sentence("Promise 14: output", "Writes the output on the page, instead of what was there: how many"
                 + " characters.");
-        TapedLines x = Due.with("10 ?\"abc\"", "20 ?5");
+        Used x = Due.with("10 ?\"abc\"", "20 ?5");
         due.same("empty", x.output(), 0);
         x.list(0);
         due.same("empty, instead of a line", x.output(), 0);
@@ -196,7 +200,7 @@ public final class ProgramTest {
         due.same("output", x.output(), 5);
         due.same("the page", Due.page(x), "abc5 ");
         due.same("output again", x.output(), 5);
-        TapedLines y = Due.started("1 ?\"0123456789\"", "2 GOTO 1");
+        Used y = Due.started("1 ?\"0123456789\"", "2 GOTO 1");
         y.run(1000);
         due.same("100 characters", y.output(), 100);
         due.same("the page", Due.page(y), "0123456789".repeat(10));
@@ -204,7 +208,7 @@ public final class ProgramTest {
 
     private static void length() {
         due.sentence("Promise 21: length", "How many characters the page has.");
-        TapedLines x = Due.with("10 ?\"abc\"");
+        Used x = Due.with("10 ?\"abc\"");
         due.same("empty", x.length(), 0);
         x.list(0);
         due.same("a line", x.length(), 9);
@@ -225,7 +229,7 @@ public final class ProgramTest {
 
     private static void charAt() {
         due.sentence("Promise 22: charAt", "Character p of the page");
-        TapedLines x = Due.with("10 ?\"a c\"");
+        Used x = Due.with("10 ?\"a c\"");
         x.list(0);
         String want = "10 ?\"a c\"";
         for (int p = 0; p < want.length(); p++) {
@@ -235,7 +239,7 @@ public final class ProgramTest {
 
     private static void noCharacter() {
         due.sentence("Promise 22: charAt", "a space when there is none");
-        TapedLines x = Due.with("10 ?\"abc\"");
+        Used x = Due.with("10 ?\"abc\"");
         due.same("of an empty page", x.charAt(0), ' ');
         x.list(0);
         due.same("the last", x.charAt(8), '"');

@@ -7,6 +7,8 @@ import java.util.TreeMap;
 /** Promises 8 to 14 over many made programs, against an interpreter that reads the lines' texts. */
 public final class RunModelTest {
     private static final Random random = new Random(9);
+    // A run, the state, the place, all variables and cells, and an output of 100 characters.
+    private static final int CALLS_TO_COMPARE = 130;
 
     /** An error of the document, by its number. */
     private static final class Stop extends RuntimeException {
@@ -231,7 +233,7 @@ public final class RunModelTest {
     }
 
     private static int oneProgram(Due due) {
-        TapedLines x = new TapedLines();
+        Used x = new Used();
         Model model = new Model();
         int most = 1 + random.nextInt(14);
         for (int k = 0; k < most; k++) {
@@ -244,7 +246,7 @@ public final class RunModelTest {
         }
         x.start();
         model.begin();
-        for (int k = 0; k < 5 && model.state == TapedLines.RUNNING; k++) {
+        for (int k = 0; k < 5 && model.state == TapedLines.RUNNING && x.callsLeft() > CALLS_TO_COMPARE; k++) {
             int n = 1 + random.nextInt(random.nextInt(3) == 0 ? 100 : 5);
             int done = 0;
             for (int j = 0; j < n && model.state == TapedLines.RUNNING; j++) {
@@ -262,7 +264,7 @@ public final class RunModelTest {
         return random.nextBoolean() ? "GOSUB" + Maker.number(random) : "GOTO" + Maker.number(random);
     }
 
-    private static void compare(Due due, String what, TapedLines x, Model model) {
+    private static void compare(Due due, String what, Used x, Model model) {
         due.same("state of " + what, x.state(), model.state);
         boolean nowhere = model.state == TapedLines.ENDED;
         due.same("place of " + what, x.place(), nowhere ? TapedLines.NONE : model.place);

@@ -15,10 +15,11 @@ public final class SaveTest {
 
     private static void bits() {
         due.sentence("Terms", "Bits: 0 are two LONG ones (12 when they are written), 1 four SHORT ones (6).");
-        TapedLines x = Due.with("1 ?\"~\"");
+        Used x = new Used();
         int size = x.save();
         for (int k = 0; k < size; k++) {
-            due.holds("half-wave " + k, x.wave(k) == 12 || x.wave(k) == 6);
+            int length = x.wave(k);
+            due.holds("half-wave " + k, length == 12 || length == 6);
         }
         due.same("ten bits 1, then a bit 0", Due.waves(x).indexOf("L"), 40);
         due.same("a short one", x.wave(39), 6);
@@ -29,27 +30,33 @@ public final class SaveTest {
     private static void bytes() {
         due.sentence("Terms", "A byte is a bit 0, its eight bits from the lowest on, a bit 1.");
         // The first byte tells how many the program has: 5, that is 101 and five bits 0.
-        TapedLines x = Due.with("1 a=1");
+        Used x = Due.with("1 a=1");
         x.save();
         String first = "LL" + "SSSS" + "LL" + "SSSS" + "LL".repeat(5) + "SSSS";
         due.same("the first byte", Due.waves(x).substring(40, 40 + first.length()), first);
         // The highest bit: 135, that is 111 from the lowest on, four bits 0 and a bit 1.
-        TapedLines y = Due.with("1 END");
+        Used y = Due.with("1 END");
         y.save();
         String want = "LL" + "SSSS".repeat(3) + "LL".repeat(4) + "SSSS" + "SSSS";
         due.same("the fourth byte", Due.waves(y).substring(40 + 26 + 24 + 24, 40 + 26 + 24 + 24 + want.length()), want);
     }
 
-    private static void saves(String what, String want, TapedLines x) {
+    /** Asks for all half-waves, or for the first, the last and some between when there are too many. */
+    private static void saves(String what, String want, Used x) {
         due.same("save of " + what, x.save(), want.length());
         due.same("waves of " + what, x.waves(), want.length());
-        due.same("the tape of " + what, Due.waves(x), want);
+        boolean all = want.length() < x.callsLeft();
+        for (int k = 0; k < want.length(); k++) {
+            if (all || k < 80 || k >= want.length() - 80 || k % 100 == 0) {
+                due.same("half-wave " + k + " of " + what, x.wave(k), want.charAt(k) == 'L' ? 12 : 6);
+            }
+        }
     }
 
     private static void saving() {
         due.sentence("Terms", "SAVING writes ten bits 1, and the bytes: how many the program has; the program; its"
                 + " SUM, the higher byte first");
-        saves("nothing", Tapes.tapeOf(0, 0, 0), new TapedLines());
+        saves("nothing", Tapes.tapeOf(0, 0, 0), new Used());
         int end = 1 + 2 + 3 * 135;
         saves("END", Tapes.tapeOf(3, 1, 1, 135, end / 256, end % 256), Due.with("1 END"));
         int loop = 10 + 2 * 6 + 3 * 132 + 4 * 'a' + 5 * '=' + 6 * '1' + 7 * 133 + 8 * '5';
@@ -61,30 +68,31 @@ public final class SaveTest {
 
     private static void sums() {
         due.sentence("Terms", "with k = 1, 2, .. the sum of k times byte k, modulo 65536");
-        TapedLines none = new TapedLines();
+        Used none = new Used();
         none.save();
         due.same("the sum of nothing", Due.waves(none).substring(62), Tapes.bytes(0, 0));
-        String row = "?\"" + "~".repeat(45) + "\"";
-        TapedLines x = Due.with("1" + row, "2" + row, "3" + row, "4" + row);
-        String program = Due.bytes(x);
-        int[] bytes = new int[200];
+        StringBuilder program = new StringBuilder();
+        for (int line = 1; line <= 4; line++) {
+            program.append((char) line).append((char) 48).append(Due.ROW_OF_45);
+        }
         int sum = 0;
         for (int k = 1; k <= 200; k++) {
-            bytes[k - 1] = program.charAt(k - 1);
-            sum += k * bytes[k - 1];
+            sum += k * program.charAt(k - 1);
         }
         due.holds("it is above 65535", sum > 65535);
-        String tape = Tapes.tapeOf(Tapes.summed(bytes));
-        saves("200 bytes", tape, x);
+        String tape = Tapes.tapeOfProgram(program.toString());
+        saves("200 bytes", tape, Due.with200());
         sum %= 65536;
         due.holds("its sum is at the end", tape.endsWith(Tapes.bytes(sum / 256, sum % 256)));
+        Used x = Due.with200();
+        x.save();
         due.same("load", x.load(), 4);
-        due.same("the same program", Due.bytes(x), program);
+        due.same("the same program", Due.bytes(x), program.toString());
     }
 
     private static void insteadOfTheOld() {
         due.sentence("Promise 15: save", "SAVING, instead of what was on the tape: how many half-waves.");
-        TapedLines x = Due.with("10 FOR a=1 TO 5");
+        Used x = Due.with("10 FOR a=1 TO 5");
         int size = x.save();
         due.holds("more than of nothing", size > 106);
         x.wobble(1, 50);
@@ -103,7 +111,7 @@ public final class SaveTest {
 
     private static void changesNothingElse() {
         due.sentence("Not promised", "Nothing is promised beyond the answers and state changes described above");
-        TapedLines x = Due.started("1 a=5", "2 ?a", "3 GOTO 2");
+        Used x = Due.started("1 a=5", "2 ?a", "3 GOTO 2");
         x.run(2);
         x.list(0);
         Due.type(x, "12");
@@ -117,7 +125,7 @@ public final class SaveTest {
 
     private static void waves() {
         due.sentence("Promise 18: waves", "How many half-waves the tape has.");
-        TapedLines x = new TapedLines();
+        Used x = new Used();
         due.same("none", x.waves(), 0);
         x.wobble(1, 1);
         due.same("none", x.waves(), 0);

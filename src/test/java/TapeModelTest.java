@@ -7,6 +7,10 @@ public final class TapeModelTest {
     private static final Pattern BYTE = Pattern.compile("(?:SSSS)*+LL((?:LL|SSSS){8})SSSS");
     private static final Pattern STATEMENTS = Grammar.ofBytes();
     private static final Random random = new Random(4);
+    // To wobble, to look at some half-waves, to load, and to ask for at most some hundred bytes.
+    private static final int CALLS_FOR_THE_REST = 150;
+
+    private static int others = 0;
 
     public static void main(String[] args) {
         Due due = new Due();
@@ -16,34 +20,61 @@ public final class TapeModelTest {
         }
         due.holds("some are torn", answers[3 + TapedLines.TORN] > 100);
         due.holds("some are wrong", answers[3 + TapedLines.WRONG] > 100);
-        due.holds("some have lines", answers[5] > 100);
+        due.holds("some have two lines", answers[3 + 2] > 100);
+        due.holds("some have another program than the old one", others > 100);
         due.end();
     }
 
     private static int oneTape(Due due) {
-        TapedLines x = new TapedLines();
-        int most = random.nextInt(8);
+        Used x = new Used();
+        int most = random.nextInt(random.nextInt(4) == 0 ? 8 : 4);
         for (int k = 0; k < most; k++) {
             Due.enter(x, Maker.line(random));
             x.wipe();
         }
         String bytes = Due.bytes(x);
-        x.save();
-        due.same("saved", loaded(Due.waves(x)), bytes);
-        String wanted = random.nextInt(6) == 0 ? "" : row(changed(bytes));
-        for (int k = 0; k < wanted.length() && k < x.waves(); k++) {
-            x.setWave(k, wanted.charAt(k) == 'L' ? 9 + random.nextInt(92) : 1 + random.nextInt(8));
+        int[] lengths = Tapes.lengths(Tapes.tapeOfProgram(bytes));
+        due.same("save", x.save(), lengths.length);
+        due.same("saved", loaded(Tapes.row(lengths)), bytes);
+        if (random.nextInt(6) > 0) {
+            set(x, lengths, row(changed(bytes)));
         }
         if (random.nextInt(4) == 0) {
-            x.wobble(random.nextInt(), random.nextInt(51));
+            int seed = random.nextInt();
+            int percent = random.nextInt(51);
+            x.wobble(seed, percent);
+            lengths = Tapes.wobbled(lengths, seed, percent);
         }
-        String waves = Due.waves(x);
+        lookAtSome(due, x, lengths);
+        return loadIsDue(due, x, Tapes.row(lengths), bytes);
+    }
+
+    /** Sets what is not as wanted, as long as calls are left for what comes then. */
+    private static void set(Used x, int[] lengths, String wanted) {
+        for (int k = 0; k < wanted.length() && k < lengths.length && x.callsLeft() > CALLS_FOR_THE_REST; k++) {
+            boolean isLong = wanted.charAt(k) == 'L';
+            if (lengths[k] > 8 != isLong || random.nextInt(20) == 0) {
+                lengths[k] = isLong ? 9 + random.nextInt(92) : 1 + random.nextInt(8);
+                x.setWave(k, lengths[k]);
+            }
+        }
+    }
+
+    private static void lookAtSome(Due due, Used x, int[] lengths) {
+        for (int k = 0; k < 20; k++) {
+            int i = random.nextInt(lengths.length);
+            due.same("half-wave " + i, x.wave(i), lengths[i]);
+        }
+    }
+
+    private static int loadIsDue(Due due, Used x, String waves, String bytes) {
         String want = loaded(waves);
         int answer = x.load();
         if (want.equals("torn") || want.equals("wrong")) {
             due.same("load of " + waves, answer, want.equals("torn") ? TapedLines.TORN : TapedLines.WRONG);
             due.same("the program behind " + waves, Due.bytes(x), bytes);
         } else {
+            others += want.equals(bytes) ? 0 : 1;
             due.same("load of " + waves, answer, countLines(want));
             due.same("lines", x.lines(), answer);
             due.same("the program of " + waves, Due.bytes(x), want);

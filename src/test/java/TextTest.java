@@ -3,7 +3,7 @@ public final class TextTest {
     private static final String[] WORDS = {"GOTO", "GOSUB", "RETURN", "IF", "FOR", "TO", "NEXT", "END"};
     private static final String[] LINES_OF_WORDS = {"1 GOTO 5", "1 GOSUB 5", "1 RETURN", "1 IF a GOTO 5",
         "1 FOR a=1 TO 5", "1 FOR a=1 TO 5", "1 NEXT a", "1 END"};
-    private static final String ROW_OF_45 = "?\"" + "x".repeat(45) + "\"";
+    private static final String ROW_OF_45 = Due.ROW_OF_45;
 
     private static final Due due = new Due();
 
@@ -30,7 +30,7 @@ public final class TextTest {
 
     private static void room() {
         due.sentence("Terms", "The TEXT has at most 60 characters with codes 32 .. 126; places count from 0.");
-        TapedLines x = new TapedLines();
+        Used x = new Used();
         Due.type(x, "1 ?\"" + "x".repeat(55) + "\"");
         due.holds("no character 61", !x.type('y'));
         due.same("a line of 60 characters", x.enter(), 60);
@@ -42,7 +42,7 @@ public final class TextTest {
 
     private static void numberAndStatement() {
         due.sentence("Terms", "It is to be a number and a statement, or a number alone");
-        TapedLines x = Due.with("7 END");
+        Used x = Due.with("7 END");
         due.same("a number alone", Due.enter(x, "7"), 0);
         due.same("a number and a statement", Due.enter(x, "8 END"), 3);
         due.faulty("", 0);
@@ -60,7 +60,7 @@ public final class TextTest {
             "1 RETURN", "1 IF b = 1 GOTO 23", "1 FOR a = 10 TO 20", "1 NEXT h", "1 END"};
         for (String line : lines) {
             String tight = line.replace(" ", "");
-            TapedLines x = Due.with(tight);
+            Used x = Due.with(tight);
             String bytes = Due.bytes(x);
             String[] ways = {line, line.replace(" ", "  "), "  " + line + "  ", tight + " ", " " + tight};
             for (String spaced : ways) {
@@ -87,10 +87,10 @@ public final class TextTest {
     private static void spacesBetweenQuotes() {
         due.sentence("Terms", "between quotes they are characters like others");
         due.becomes("1 ? \" a  b \" ", "1 ?\" a  b \"");
-        due.same("one space", Due.enter(new TapedLines(), "1 ?\" \""), 6);
-        due.same("two spaces", Due.enter(new TapedLines(), "1 ?\"  \""), 7);
-        due.same("no space", Due.enter(new TapedLines(), "1 ? \"\""), 5);
-        TapedLines x = Due.started("1 ?\"  a \"");
+        due.same("one space", Due.enter(new Used(), "1 ?\" \""), 6);
+        due.same("two spaces", Due.enter(new Used(), "1 ?\"  \""), 7);
+        due.same("no space", Due.enter(new Used(), "1 ? \"\""), 5);
+        Used x = Due.started("1 ?\"  a \"");
         x.run(1);
         due.same("written", Due.output(x), "  a ");
     }
@@ -146,7 +146,7 @@ public final class TextTest {
             for (int length : whole) {
                 isWhole |= length == size;
             }
-            int answer = Due.enter(new TapedLines(), text.substring(0, size));
+            int answer = Due.enter(new Used(), text.substring(0, size));
             if (isWhole) {
                 due.holds("[" + text.substring(0, size) + "] has no fault", answer >= 0);
             } else {
@@ -157,7 +157,7 @@ public final class TextTest {
 
     private static void types() {
         due.sentence("Promise 2: type", "Appends a character to the text: true");
-        TapedLines x = new TapedLines();
+        Used x = new Used();
         for (char c = ' '; c <= '~'; c++) {
             due.holds("type of " + (int) c, x.type(c));
             due.same("the text then", x.wipe(), 1);
@@ -175,12 +175,16 @@ public final class TextTest {
 
     private static void refusesToType() {
         due.sentence("Promise 2: type", "false when c is not 32 .. 126 or there are 60");
-        TapedLines x = new TapedLines();
-        boolean any = false;
-        for (int c = 0; c <= 65535; c++) {
-            any |= (c < 32 || c > 126) && x.type((char) c);
+        for (int from = 0; from < 65536; from += 256) {
+            Used y = new Used();
+            boolean any = false;
+            for (int c = from; c < from + 256; c++) {
+                any |= (c < 32 || c > 126) && y.type((char) c);
+            }
+            due.holds("no other character from " + from + " on is typed", !any);
+            due.same("the text stays empty", y.wipe(), 0);
         }
-        due.holds("no other character is typed", !any);
+        Used x = new Used();
         due.holds("nor 31", !x.type((char) 31));
         due.holds("nor 127", !x.type((char) 127));
         due.holds("nor 32 + 65536 / 2", !x.type((char) (32 + 32768)));
@@ -198,7 +202,7 @@ public final class TextTest {
 
     private static void wipes() {
         due.sentence("Promise 3: wipe", "The text is empty; how many characters it had.");
-        TapedLines x = Due.with("1 END");
+        Used x = Due.with("1 END");
         due.same("wipe of nothing", x.wipe(), 0);
         Due.type(x, "2 EN");
         due.same("wipe", x.wipe(), 4);
@@ -217,21 +221,21 @@ public final class TextTest {
     private static void textIsEmptyThen() {
         due.sentence("Promise 4: enter", "The text, which is empty then, becomes a line, in the place of one with"
                 + " that number");
-        TapedLines x = new TapedLines();
+        Used x = new Used();
         Due.enter(x, "1 END");
         due.same("behind a line", x.wipe(), 0);
         Due.enter(x, "1");
         due.same("behind a number alone", x.wipe(), 0);
         Due.enter(x, "1 EN");
         due.same("behind a fault", x.wipe(), 0);
-        TapedLines full = Due.with("1" + ROW_OF_45, "2" + ROW_OF_45, "3" + ROW_OF_45, "4" + ROW_OF_45);
+        Used full = Due.with200();
         Due.enter(full, "5 END");
         due.same("behind FULL", full.wipe(), 0);
     }
 
     private static void replaces() {
         due.sentence("Promise 4: enter", "becomes a line, in the place of one with that number");
-        TapedLines x = new TapedLines();
+        Used x = new Used();
         due.same("the first", Due.enter(x, "20 a=1"), 5);
         due.same("before it", Due.enter(x, "10 END"), 8);
         due.same("behind it", Due.enter(x, "30 b=22"), 14);
@@ -247,7 +251,7 @@ public final class TextTest {
 
     private static void takesAway() {
         due.sentence("Promise 4: enter", "a number alone takes that line away");
-        TapedLines x = Due.with("10 a=1", "20 b=2", "30 c=3");
+        Used x = Due.with("10 a=1", "20 b=2", "30 c=3");
         due.same("one that is not there", Due.enter(x, "15"), 15);
         due.same("before all", Due.enter(x, "1"), 15);
         due.same("behind all", Due.enter(x, "99"), 15);
@@ -262,12 +266,12 @@ public final class TextTest {
 
     private static void answersBytes() {
         due.sentence("Promise 4: enter", "Answers how many bytes the program has");
-        TapedLines x = new TapedLines();
+        Used x = new Used();
         due.same("none", Due.enter(x, "1"), 0);
         due.same("the fewest", Due.enter(x, "1 END"), 3);
         due.same("more", Due.enter(x, "2 FOR a = 1 TO 5"), 11);
         due.same("fewer", Due.enter(x, "1"), 8);
-        TapedLines y = Due.with("1" + ROW_OF_45, "2" + ROW_OF_45, "3" + ROW_OF_45);
+        Used y = Due.with("1" + ROW_OF_45, "2" + ROW_OF_45, "3" + ROW_OF_45);
         due.same("200", Due.enter(y, "4" + ROW_OF_45), 200);
         due.same("200 again", Due.enter(y, "2 ?\"" + "y".repeat(45) + "\""), 200);
         due.same("fewer", Due.enter(y, "2"), 150);
@@ -276,17 +280,17 @@ public final class TextTest {
     private static void answersFault() {
         due.sentence("Promise 4: enter", "-1 - p with a fault p");
         for (int p = 0; p < 60; p++) {
-            TapedLines x = new TapedLines();
+            Used x = new Used();
             due.same("a fault at " + p, Due.enter(x, " ".repeat(p) + "!" + " ".repeat(59 - p)), -1 - p);
         }
-        due.same("a fault at 60", Due.enter(new TapedLines(), " ".repeat(60)), -61);
-        TapedLines full = Due.with("1" + ROW_OF_45, "2" + ROW_OF_45, "3" + ROW_OF_45, "4" + ROW_OF_45);
+        due.same("a fault at 60", Due.enter(new Used(), " ".repeat(60)), -61);
+        Used full = Due.with200();
         due.same("a fault without room for the line", Due.enter(full, "5 EN"), -5);
     }
 
     private static void answersFull() {
         due.sentence("Promise 4: enter", "FULL if there would be more than 200");
-        TapedLines x = Due.with("1" + ROW_OF_45, "2" + ROW_OF_45, "3" + ROW_OF_45);
+        Used x = Due.with("1" + ROW_OF_45, "2" + ROW_OF_45, "3" + ROW_OF_45);
         due.same("201 bytes", Due.enter(x, "4 ?\"" + "x".repeat(46) + "\""), TapedLines.FULL);
         due.same("200 bytes", Due.enter(x, "4" + ROW_OF_45), 200);
         due.same("a new line", Due.enter(x, "5 END"), TapedLines.FULL);
@@ -302,42 +306,75 @@ public final class TextTest {
 
     private static void allElseStays() {
         due.sentence("Promise 4: enter", "With a fault or FULL all else stays as it was");
-        TapedLines x = Due.with("1 a=5", "2 @(1)=6", "3 ?a", "4" + ROW_OF_45, "5" + ROW_OF_45, "6" + ROW_OF_45,
-                "7 ?\"" + "x".repeat(24) + "\"");
-        x.save();
-        x.start();
-        x.run(3);
-        String before = Due.all(x);
-        x.list(0);
-        due.same("a fault", Due.enter(x, "8 END!"), -6);
-        due.same("the page with a fault", Due.page(x), "1 a=5");
-        due.same("FULL", Due.enter(x, "3" + ROW_OF_45), TapedLines.FULL);
-        due.same("the page with FULL", Due.page(x), "1 a=5");
-        due.same("all else", Due.all(x), before);
-        due.same("it runs on", x.run(2), 2);
-        due.same("there", x.place(), 6);
-        x.run(9);
-        due.same("stopped", x.state(), 17);
-        due.same("a fault", Due.enter(x, ""), -1);
-        due.same("still stopped", x.state(), 17);
-        due.same("at its place", x.place(), 6);
-        due.same("FULL", Due.enter(x, "8" + ROW_OF_45), TapedLines.FULL);
-        due.same("still stopped", x.state(), 17);
-        TapedLines y = Due.started("1 END");
+        for (String text : new String[] {"8 END!", "8 EN", "", "100"}) {
+            Used x = busyWithTape();
+            due.holds("a fault of [" + text + "]", Due.enter(x, text) < 0);
+            due.same("all else with [" + text + "]", Due.all(x), Due.all(busyWithTape()));
+        }
+        for (String text : new String[] {"8 END!", "3" + ROW_OF_45}) {
+            Used x = busyAndLong();
+            x.list(0);
+            int answer = text.length() < 40 ? -6 : TapedLines.FULL;
+            due.same("enter of " + text, Due.enter(x, text), answer);
+            due.same("the page with " + answer, Due.page(x), "1 a=5");
+            due.same("the state with " + answer, x.state(), TapedLines.RUNNING);
+            due.same("the place with " + answer, x.place(), 4);
+            due.same("a with " + answer, x.variable(0), 5);
+            due.same("cell 1 with " + answer, x.cell(1), 6);
+            due.same("the output with " + answer, Due.output(x), "5 ");
+            due.same("the tape with " + answer, x.waves(), 106);
+            due.same("it runs on with " + answer, x.run(2), 2);
+            due.same("there", x.place(), 6);
+            x.run(9);
+            due.same("stopped", x.state(), 17);
+            due.same("again, stopped, " + text, Due.enter(x, text), answer);
+            due.same("still stopped", x.state(), 17);
+            due.same("at its place", x.place(), 6);
+        }
+        // To ask for 200 bytes, too, would be too many calls for the object above.
+        Used full = Due.with200();
+        Due.enter(full, "3 ?\"" + "y".repeat(46) + "\"");
+        due.same("the program with FULL", Due.bytes(full), Due.bytes(Due.with200()));
+        Used y = Due.started("1 END");
         y.run(1);
         Due.enter(y, "0");
         due.same("still ended", y.state(), TapedLines.ENDED);
     }
 
+    private static Used busyWithTape() {
+        Used x = new Used();
+        // A tape of few half-waves, so that all of them can be asked.
+        x.save();
+        for (String line : new String[] {"1 a=5", "2 @(1)=6", "3 ?a", "4 GOTO 4"}) {
+            Due.enter(x, line);
+        }
+        x.start();
+        x.run(3);
+        return x;
+    }
+
+    /** Run as far as line 4 of a program with 196 bytes; line 6 will have no room for its output. */
+    private static Used busyAndLong() {
+        Used x = new Used();
+        x.save();
+        for (String line : new String[] {"1 a=5", "2 @(1)=6", "3 ?a", "4" + ROW_OF_45, "5" + ROW_OF_45, "6" + ROW_OF_45,
+            "7 ?\"" + "x".repeat(24) + "\""}) {
+            Due.enter(x, line);
+        }
+        x.start();
+        x.run(3);
+        return x;
+    }
+
     private static void stopsTheRun() {
         due.sentence("Promise 4: enter", "otherwise nothing runs then: IDLE");
         for (String text : new String[] {"1 b=1", "9 END", "9", "2"}) {
-            TapedLines x = Due.started("1 a=7", "2 @(3)=a", "3 ?a", "4 a=1/0");
+            Used x = Due.started("1 a=7", "2 @(3)=a", "3 ?a", "4 a=1/0");
             Due.enter(x, text);
             due.same("just started, idle behind " + text, x.state(), TapedLines.IDLE);
             due.same("nowhere", x.place(), TapedLines.NONE);
             due.throwsThat("run", IllegalStateException.class, () -> x.run(1));
-            TapedLines y = Due.started("1 a=7", "2 @(3)=a", "3 ?a", "4 a=1/0");
+            Used y = Due.started("1 a=7", "2 @(3)=a", "3 ?a", "4 a=1/0");
             y.run(9);
             Due.enter(y, text);
             due.same("stopped, idle behind " + text, y.state(), TapedLines.IDLE);
@@ -346,7 +383,7 @@ public final class TextTest {
             due.same("cells stay", y.cell(3), 7);
             due.same("output stays", Due.output(y), "7 ");
         }
-        TapedLines z = Due.started("1 END");
+        Used z = Due.started("1 END");
         z.run(1);
         Due.enter(z, "1 END");
         due.same("ended, idle then", z.state(), TapedLines.IDLE);

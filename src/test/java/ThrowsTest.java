@@ -15,22 +15,26 @@ public final class ThrowsTest {
         due.end();
     }
 
-    private static TapedLines busy(int done) {
-        TapedLines x = Due.with("1 FOR a=1 TO 9", "2 GOSUB 4", "3 END", "4 ?a", "5 @(2)=a", "6 IF a=2 GOTO 3", "7 NEXT a");
+    private static Used busy(int done) {
+        Used x = new Used();
+        // A tape of few half-waves, so that all of them can be asked.
         x.save();
         x.wobble(3, 20);
+        for (String line : new String[] {"1FORa=1TO9", "2GOSUB4", "3END", "4?a", "5@(2)=a", "6IFa=2GOTO3", "7NEXTa"}) {
+            Due.enter(x, line);
+        }
         x.start();
         x.run(done);
         return x;
     }
 
     /** Objects in all states, each made by the same calls each time. */
-    private static TapedLines inState(String name) {
+    private static Used inState(String name) {
         switch (name) {
             case "new":
-                return new TapedLines();
+                return new Used();
             case "idle":
-                TapedLines idle = busy(5);
+                Used idle = busy(5);
                 Due.enter(idle, "99 END");
                 return idle;
             case "running":
@@ -38,13 +42,13 @@ public final class ThrowsTest {
             case "ended":
                 return busy(1000);
             case "stopped":
-                TapedLines stopped = busy(1);
+                Used stopped = busy(1);
                 Due.enter(stopped, "5 a=1/0");
                 stopped.start();
                 stopped.run(1000);
                 return stopped;
             default:
-                TapedLines started = new TapedLines();
+                Used started = new Used();
                 started.start();
                 return started;
         }
@@ -53,7 +57,7 @@ public final class ThrowsTest {
     private static final String[] STATES = {"new", "idle", "running", "ended", "stopped", "ended without lines"};
     private static final int[] FAR = {-1, -2, 8000, Integer.MIN_VALUE, Integer.MAX_VALUE};
 
-    private static Map<String, Runnable> throwing(TapedLines x) {
+    private static Map<String, Runnable> throwing(Used x) {
         Map<String, Runnable> calls = new LinkedHashMap<>();
         for (int i : FAR) {
             calls.put("list " + i, () -> x.list(i));
@@ -93,23 +97,26 @@ public final class ThrowsTest {
     private static void changesNothing() {
         due.sentence("Terms", "A call that throws changes nothing");
         for (String state : STATES) {
-            TapedLines x = inState(state);
-            String before = Due.all(x);
-            String page = x.lines() > 0 ? Due.listing(x, 0) : "";
-            Due.type(x, "1234");
-            for (Map.Entry<String, Runnable> call : throwing(x).entrySet()) {
-                String what = call.getKey() + ", " + state;
-                due.holds(what + " throws", doesThrow(call.getValue()));
+            String all = Due.all(inState(state));
+            String later = later(inState(state));
+            for (String call : throwing(inState(state)).keySet()) {
+                String what = call + ", " + state;
+                Used x = inState(state);
+                String page = x.lines() > 0 ? Due.listing(x, 0) : "";
+                Due.type(x, "1234");
+                due.holds(what + " throws", doesThrow(throwing(x).get(call)));
                 due.same("the page behind " + what, Due.page(x), page);
+                due.same("the text behind " + what, x.wipe(), 4);
+                due.same("all else behind " + what, Due.all(x), all);
+                Used y = inState(state);
+                due.holds(what + " throws again", doesThrow(throwing(y).get(call)));
+                due.same("what comes of it behind " + what, later(y), later);
             }
-            due.same("the text, " + state, x.wipe(), 4);
-            due.same("all else, " + state, Due.all(x), before);
-            due.same("how it runs on, " + state, onward(x), onward(inState(state)));
         }
     }
 
     /** What comes of an object later: its loops and returns cannot be asked, but show in what it does. */
-    private static String onward(TapedLines x) {
+    private static String later(Used x) {
         StringBuilder told = new StringBuilder();
         for (int k = 0; k < 30 && x.state() == TapedLines.RUNNING; k++) {
             told.append(x.run(1)).append(x.place()).append(' ');
@@ -120,7 +127,7 @@ public final class ThrowsTest {
     private static void firstWins() {
         due.sentence("Terms", "where it lists more than one exception, the first one wins");
         for (String state : new String[] {"new", "idle", "ended", "stopped", "ended without lines"}) {
-            TapedLines x = inState(state);
+            Used x = inState(state);
             for (int n : new int[] {0, -1, 1001, Integer.MIN_VALUE, Integer.MAX_VALUE}) {
                 due.throwsThat("run " + n + ", " + state, ARGUMENT, () -> x.run(n));
             }
@@ -128,7 +135,7 @@ public final class ThrowsTest {
             due.throwsThat("run 1000, " + state, STATE, () -> x.run(1000));
         }
         for (String state : STATES) {
-            TapedLines x = inState(state);
+            Used x = inState(state);
             for (int length : new int[] {0, -1, 101, Integer.MIN_VALUE, Integer.MAX_VALUE}) {
                 due.throwsThat("setWave behind all and " + length, INDEX, () -> x.setWave(x.waves(), length));
                 due.throwsThat("setWave before all and " + length, INDEX, () -> x.setWave(-1, length));

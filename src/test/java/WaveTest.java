@@ -18,37 +18,22 @@ public final class WaveTest {
         due.end();
     }
 
-    private static TapedLines saved() {
-        TapedLines x = Due.with("1 ?\"wobble\"");
+    private static final String PROGRAM = "\u0001\u0009?\"wobble\"";
+
+    private static Used saved() {
+        Used x = Due.with("1 ?\"wobble\"");
         x.save();
         return x;
     }
 
-    /** The document's formula, without the wrap-around of int. */
-    private static int[] wobbled(int[] lengths, int seed, int percent) {
-        int[] want = lengths.clone();
-        long x = seed & 0xFFFFFFFFL;
-        for (int k = 0; k < want.length; k++) {
-            x = (x * 1103515245L + 12345L) & 0xFFFFFFFFL;
-            long factor = 100 - percent + (x >> 16) % (2 * percent + 1);
-            want[k] = (int) Math.min(100, Math.max(1, want[k] * factor / 100));
-        }
-        return want;
+    private static int[] savedLengths() {
+        return Tapes.lengths(Tapes.tapeOfProgram(PROGRAM));
     }
 
-    private static int[] lengths(TapedLines x) {
-        int[] row = new int[x.waves()];
-        for (int k = 0; k < row.length; k++) {
-            row[k] = x.wave(k);
-        }
-        return row;
-    }
-
-    private static void wobbleIsDue(TapedLines x, int seed, int percent) {
-        int[] want = wobbled(lengths(x), seed, percent);
-        x.wobble(seed, percent);
+    private static void lengthsAre(String what, Used x, int[] want) {
+        due.same("how many, " + what, x.waves(), want.length);
         for (int k = 0; k < want.length; k++) {
-            due.same("half-wave " + k + " wobbled by " + seed + ", " + percent, x.wave(k), want[k]);
+            due.same("half-wave " + k + ", " + what, x.wave(k), want[k]);
         }
     }
 
@@ -58,57 +43,66 @@ public final class WaveTest {
                 + " % (2 * percent + 1), divided by 100 (whole)");
         for (int seed : SEEDS) {
             for (int percent : new int[] {0, 1, 2, 25, 49, 50}) {
-                wobbleIsDue(saved(), seed, percent);
+                Used x = saved();
+                x.wobble(seed, percent);
+                lengthsAre("by " + seed + ", " + percent, x, Tapes.wobbled(savedLengths(), seed, percent));
             }
         }
-        TapedLines x = saved();
+        Used often = saved();
+        int[] want = savedLengths();
         for (int seed : SEEDS) {
-            wobbleIsDue(x, seed, 17);
+            often.wobble(seed, 17);
+            want = Tapes.wobbled(want, seed, 17);
         }
-        TapedLines y = saved();
-        int[] before = lengths(y);
-        y.wobble(99, 0);
-        due.same("none by 0", java.util.Arrays.toString(lengths(y)), java.util.Arrays.toString(before));
+        lengthsAre("by one seed behind the other", often, want);
+        Used none = saved();
+        none.wobble(99, 0);
+        lengthsAre("by 0", none, savedLengths());
     }
 
     private static void wobblesByHand() {
         due.sentence("Promise 17: wobble", "x becomes x * 1103515245 + 12345 (wrapping)");
         // x is 12345, whose upper half is 0: the length is 6 times 100 - 50 + 0 % 101, divided by 100.
-        TapedLines x = saved();
+        Used x = saved();
         x.wobble(0, 50);
         due.same("the first of seed 0", x.wave(0), 3);
         // x is 1103527590, its upper half 16838, which is 72 modulo 101.
-        TapedLines y = saved();
+        Used y = saved();
         y.wobble(1, 50);
         due.same("the first of seed 1", y.wave(0), 6 * (50 + 72) / 100);
         // x is -1103502900, its upper half 48697, which is 15 modulo 101: >>> makes no negative number.
-        TapedLines z = saved();
+        Used z = saved();
         z.wobble(-1, 50);
         due.same("the first of seed -1", z.wave(0), 6 * (50 + 15) / 100);
     }
 
     private static void limits() {
         due.sentence("Promise 17: wobble", "but at least 1 and at most 100");
-        TapedLines x = saved();
-        for (int k = 0; k < x.waves(); k++) {
-            x.setWave(k, k % 2 == 0 ? 1 : 100);
-        }
-        for (int seed : SEEDS) {
-            wobbleIsDue(x, seed, 50);
+        Used x = new Used();
+        int[] want = new int[x.save()];
+        for (int k = 0; k < want.length; k++) {
+            want[k] = k % 2 == 0 ? 1 : 100;
+            x.setWave(k, want[k]);
         }
         int least = 100;
         int most = 1;
-        for (int length : lengths(x)) {
-            least = Math.min(least, length);
-            most = Math.max(most, length);
+        for (int seed : SEEDS) {
+            x.wobble(seed, 50);
+            want = Tapes.wobbled(want, seed, 50);
+            for (int k = 0; k < 20; k++) {
+                int length = x.wave(k);
+                due.same("half-wave " + k + " by " + seed, length, want[k]);
+                least = Math.min(least, length);
+                most = Math.max(most, length);
+            }
         }
         due.same("the least", least, 1);
         due.same("the most", most, 100);
-        TapedLines y = saved();
+        Used y = saved();
         y.setWave(0, 1);
         y.wobble(0, 50);
         due.same("half of 1 is 1", y.wave(0), 1);
-        TapedLines z = saved();
+        Used z = saved();
         z.setWave(0, 100);
         z.wobble(1, 50);
         due.same("122 for 100 of 100 is 100", z.wave(0), 100);
@@ -116,21 +110,20 @@ public final class WaveTest {
 
     private static void refusesPercents() {
         due.sentence("Promise 17: wobble", "IllegalArgument: percent is not 0 .. 50.");
-        TapedLines x = saved();
-        int[] before = lengths(x);
-        TapedLines empty = new TapedLines();
+        Used x = saved();
+        Used empty = new Used();
         for (int percent : new int[] {-1, -2, 51, 52, 100, Integer.MIN_VALUE, Integer.MAX_VALUE}) {
             due.throwsThat("wobble by " + percent, IllegalArgumentException.class, () -> x.wobble(1, percent));
             due.throwsThat("with an empty tape by " + percent, IllegalArgumentException.class, () -> empty.wobble(1, percent));
         }
-        due.same("nothing changed", java.util.Arrays.toString(lengths(x)), java.util.Arrays.toString(before));
+        lengthsAre("when refused", x, savedLengths());
         due.throwsThat("by 0", null, () -> x.wobble(1, 0));
         due.throwsThat("by 50", null, () -> x.wobble(1, 50));
     }
 
     private static void wobblesNothing() {
         due.sentence("Promise 1: A new object", "an empty tape");
-        TapedLines x = new TapedLines();
+        Used x = new Used();
         x.wobble(1, 50);
         due.same("waves", x.waves(), 0);
         x.save();
@@ -139,7 +132,7 @@ public final class WaveTest {
 
     private static void wave() {
         due.sentence("Promise 19: wave", "The length of a half-wave.");
-        TapedLines x = new TapedLines();
+        Used x = new Used();
         x.save();
         String row = Tapes.tapeOf(0, 0, 0);
         for (int k = 0; k < 106; k++) {
@@ -149,8 +142,8 @@ public final class WaveTest {
 
     private static void refusesWaves() {
         due.sentence("Promise 19: wave", "IndexOutOfBounds: there is none such.");
-        TapedLines empty = new TapedLines();
-        TapedLines x = new TapedLines();
+        Used empty = new Used();
+        Used x = new Used();
         x.save();
         due.same("the first", x.wave(0), 6);
         due.same("the last", x.wave(105), 6);
@@ -163,7 +156,7 @@ public final class WaveTest {
 
     private static void setsWaves() {
         due.sentence("Promise 20: setWave", "A half-wave gets another length: what it was.");
-        TapedLines x = new TapedLines();
+        Used x = new Used();
         x.save();
         for (int k : new int[] {0, 40, 105}) {
             int was = x.wave(k);
@@ -179,8 +172,8 @@ public final class WaveTest {
 
     private static void refusesToSetWaves() {
         due.sentence("Promise 20: setWave", "IndexOutOfBounds: there is none such.");
-        TapedLines empty = new TapedLines();
-        TapedLines x = new TapedLines();
+        Used empty = new Used();
+        Used x = new Used();
         x.save();
         for (int i : new int[] {106, 107, 7753, 7754, -1, Integer.MIN_VALUE, Integer.MAX_VALUE}) {
             due.throwsThat("setWave " + i, IndexOutOfBoundsException.class, () -> x.setWave(i, 5));
@@ -192,7 +185,7 @@ public final class WaveTest {
 
     private static void refusesLengths() {
         due.sentence("Promise 20: setWave", "IllegalArgument: length is not 1 .. 100.");
-        TapedLines x = new TapedLines();
+        Used x = new Used();
         x.save();
         for (int length : new int[] {0, -1, 101, 102, 257, Integer.MIN_VALUE, Integer.MAX_VALUE}) {
             due.throwsThat("length " + length, IllegalArgumentException.class, () -> x.setWave(0, length));
