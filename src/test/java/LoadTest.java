@@ -113,8 +113,9 @@ public final class LoadTest {
         due.sentence("Terms", "a tape that ends before the last byte");
         due.same("an empty tape", new Used().load(), TapedLines.TORN);
         // Tapes of 196 and 198 half-waves; END with bits 1 before it is so many half-waves too long for them.
-        for (int number = 1; number <= 3; number += 2) {
+        for (int number = 1; number <= 2; number++) {
             String tape = Tapes.tapeOf(Tapes.summed(number, 1, 135));
+            due.same("half-waves of line " + number, tape.length(), 194 + 2 * number);
             for (int cut = -2; cut <= 156; cut++) {
                 int ones = tape.length() + cut - END_BYTES.length();
                 if (ones % 4 == 0) {
